@@ -2165,8 +2165,9 @@ public final class ProofHouse {
                     split(clause, at, out);
                     return;
                 }
-                changed = changed || out != literal;
-                at += out == literal || stands(clause, at, out) ? 1 : 0;
+                boolean same = out == literal && out != NIL;
+                changed = changed || !same;
+                at += same || stands(clause, at, out) ? 1 : 0;
             }
             if (!changed && room.trouble == 0) {
                 leave(clause);
