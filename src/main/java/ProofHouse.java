@@ -88,7 +88,8 @@ public final class ProofHouse {
     /** A node's cell: a pair's is negative, a symbol's has this bit, a natural's is the number itself. */
     private static final long SYMBOL_BIT = 1L << 62;
     private static final long GREATEST = SYMBOL_BIT - 1;
-    private static final int SIDE = Integer.MAX_VALUE;
+    private static final long PAIR_BIT = 1L << 63;
+    private static final int SIDE = 0x7FFFFFFF;
     private static final int SIDE_BITS = 31;
 
     /** What a term is REWRITTEN for. */
@@ -101,7 +102,7 @@ public final class ProofHouse {
     private static final int REPLACE = 2;
 
     private static long pairCell(int left, int right) {
-        return Long.MIN_VALUE | (long) Math.max(left, NIL) << SIDE_BITS | Math.max(right, NIL);
+        return PAIR_BIT | (long) (left < 0 ? NIL : left) << SIDE_BITS | (right < 0 ? NIL : right);
     }
 
     /**
@@ -110,17 +111,18 @@ public final class ProofHouse {
      * it, so every walk along them ends. What was made last is forgotten first.
      */
     private static final class Room {
-        private static final int NODES = 1 << 17;
-        private static final int SLOTS = 1 << 15;
-        private static final int SLOT_SHIFT = 49;
+        /** More than 512 calls can fill: the dearest 1000 STEPS make some sixty nodes each. */
+        private static final int NODE_LIMIT = 1 << 16;
+        private static final int SLOTS = 1 << 13;
+        private static final int SLOT_SHIFT = 51;
         private static final long SPREAD = 0x9E3779B97F4A7C15L;
         private static final int SUM_LIMIT = 1000000;
 
-        private final long[] cells = new long[NODES];
-        private final int[] chain = new int[NODES];
+        private final long[] cells = new long[NODE_LIMIT];
+        private final int[] chain = new int[NODE_LIMIT];
         /** Of a pair, taken as a row of terms: their SIZES together. */
-        private final int[] sums = new int[NODES];
-        private final int[] heights = new int[NODES];
+        private final int[] sums = new int[NODE_LIMIT];
+        private final int[] heights = new int[NODE_LIMIT];
         private final int[] heads = new int[SLOTS];
         private int used = 0;
         private int given = 0;
@@ -162,7 +164,7 @@ public final class ProofHouse {
             }
         }
 
-        /** The node with this cell. A full room is TOO BIG: 512 calls can't fill it. */
+        /** The node with this cell. A full room is TOO BIG. */
         int made(long cell) {
             int slot = (int) ((cell * SPREAD) >>> SLOT_SHIFT);
             for (int i = heads[slot]; i >= 0; i = chain[i]) {
@@ -170,7 +172,7 @@ public final class ProofHouse {
                     return i;
                 }
             }
-            if (used >= NODES) {
+            if (used >= NODE_LIMIT) {
                 trouble = trouble == 0 ? TOO_BIG : trouble;
                 return NIL;
             }
@@ -186,9 +188,9 @@ public final class ProofHouse {
             if (cell < 0 && left < node && right < node) {
                 long first = cells[left];
                 boolean call = first < 0 && ((int) (first >>> SIDE_BITS) & SIDE) != QUOTE;
-                int inside = call ? sums[(int) first & SIDE] : 0;
-                sums[node] = Math.min(SUM_LIMIT, 1 + inside + sums[right]);
-                heights[node] = 1 + Math.max(heights[left], heights[right]);
+                int sum = 1 + (call ? sums[(int) first & SIDE] : 0) + sums[right];
+                sums[node] = sum < SUM_LIMIT ? sum : SUM_LIMIT;
+                heights[node] = 1 + (heights[left] > heights[right] ? heights[left] : heights[right]);
             }
             return node;
         }
@@ -459,7 +461,7 @@ public final class ProofHouse {
         private void takeMark(char c) {
             if (c == '.') {
                 phases[depth] = DOTTED;
-            } else if (c == ')') {
+            } else if (c == ')' && depth > 0) {
                 int list = tails[depth];
                 while (held > bases[depth] && held > 0) {
                     held--;
@@ -467,7 +469,7 @@ public final class ProofHouse {
                 }
                 depth--;
                 deliver(list);
-            } else if (depth < OPEN_LIMIT) {
+            } else if (c != ')' && depth < OPEN_LIMIT) {
                 depth++;
                 phases[depth] = c == '(' ? EMPTY : QUOTED;
                 bases[depth] = held;
@@ -664,7 +666,9 @@ public final class ProofHouse {
         }
 
         void muteNone() {
-            Arrays.fill(muted, false);
+            for (int k = 0; k < THEOREM_LIMIT; k++) {
+                muted[k] = false;
+            }
         }
 
         void addFunction(int name, int names, int arity, int body, int measure) {
@@ -1226,7 +1230,8 @@ public final class ProofHouse {
                     long sum = room.numberOf(first) + room.numberOf(second);
                     return sum > GREATEST ? NONE : room.made(sum);
                 case MINUS:
-                    return room.made(Math.max(0, room.numberOf(first) - room.numberOf(second)));
+                    long rest = room.numberOf(first) - room.numberOf(second);
+                    return room.made(rest < 0 ? 0 : rest);
                 case LESS:
                     return room.numberOf(first) < room.numberOf(second) ? T : NIL;
                 case CONSP:
@@ -1354,10 +1359,11 @@ public final class ProofHouse {
         private static final int REDUCE_OTHER = 10;
         private static final int LOOK_UP = 11;
         private static final int SEEK = 12;
-        private static final int APPLY = 13;
-        private static final int JUDGE = 14;
-        private static final int UNFOLD = 15;
-        private static final int CHOOSE = 16;
+        private static final int COMPARE = 13;
+        private static final int APPLY = 14;
+        private static final int JUDGE = 15;
+        private static final int UNFOLD = 16;
+        private static final int CHOOSE = 17;
 
         private final Room room;
         private final Book book;
@@ -1398,57 +1404,24 @@ public final class ProofHouse {
             for (int turn = 0; turn < MANY && depth > 0 && room.trouble == 0; turn++) {
                 int[] frame = frames[depth - 1];
                 switch (frame[STAGE]) {
-                    case START:
-                        start(frame);
-                        break;
-                    case TEST:
-                        goOnWithTest(frame);
-                        break;
-                    case THEN:
-                        goOnWithThen(frame);
-                        break;
-                    case ELSE:
-                        finish(choice(frame[MAIN], frame[THEN_OUT], answer, frame[GOAL]));
-                        break;
-                    case NEGATE:
-                        goOnWithNegation(frame);
-                        break;
-                    case GATHER:
-                        gather(frame);
-                        break;
-                    case COMPUTE:
-                        compute(frame);
-                        break;
-                    case REDUCE_EQUAL:
-                        reduceEqual(frame, room.item(frame[MAIN], 1), room.item(frame[MAIN], 2));
-                        break;
-                    case REDUCE_LESS:
-                        reduceLess(frame, room.item(frame[MAIN], 1), room.item(frame[MAIN], 2));
-                        break;
-                    case REDUCE_OTHER:
-                        reduceOther(frame, room.left(frame[MAIN]), room.item(frame[MAIN], 1));
-                        break;
-                    case LOOK_UP:
-                        lookUp(frame);
-                        break;
-                    case SEEK:
-                        seek(frame);
-                        break;
-                    case APPLY:
-                        apply(frame);
-                        break;
-                    case JUDGE:
-                        judge(frame);
-                        break;
-                    case UNFOLD:
-                        unfold(frame);
-                        break;
-                    case CHOOSE:
-                        chooseBranch(frame);
-                        break;
-                    default:
-                        finish(answer);
-                        break;
+                    case START: start(frame); break;
+                    case TEST: goOnWithTest(frame); break;
+                    case THEN: goOnWithThen(frame); break;
+                    case ELSE: finish(choice(frame[MAIN], frame[THEN_OUT], answer, frame[GOAL])); break;
+                    case NEGATE: goOnWithNegation(frame); break;
+                    case GATHER: gather(frame); break;
+                    case COMPUTE: compute(frame); break;
+                    case REDUCE_EQUAL: reduceEqual(frame, room.item(frame[MAIN], 1), room.item(frame[MAIN], 2)); break;
+                    case REDUCE_LESS: reduceLess(frame, room.item(frame[MAIN], 1), room.item(frame[MAIN], 2)); break;
+                    case REDUCE_OTHER: reduceOther(frame, room.left(frame[MAIN]), room.item(frame[MAIN], 1)); break;
+                    case LOOK_UP: lookUp(frame); break;
+                    case SEEK: seek(frame); break;
+                    case COMPARE: compare(frame); break;
+                    case APPLY: apply(frame); break;
+                    case JUDGE: judge(frame); break;
+                    case UNFOLD: unfold(frame); break;
+                    case CHOOSE: chooseBranch(frame); break;
+                    default: finish(answer); break;
                 }
             }
             return room.trouble == 0 ? answer : NONE;
@@ -1699,32 +1672,34 @@ public final class ProofHouse {
             }
         }
 
-        /** Looks for the latest RULE that MATCHES, from the frame's on; its HYPOTHESES are asked next. */
+        /** Looks for the latest RULE that MATCHES, from the frame's on. */
         private void seek(int[] frame) {
             for (int k = frame[RULE]; k >= 0 && room.trouble == 0; k--) {
                 if (book.canLook(k, frame[GOAL]) && terms.matches(book.lefts[k], frame[MAIN]) && room.step()) {
-                    if (!book.turning[k] || isSmaller(terms.rebuilt(book.rights[k], FILL), frame[MAIN])) {
-                        frame[RULE] = k;
-                        frame[HYPOTHESIS] = 0;
-                        frame[STAGE] = APPLY;
-                        return;
-                    }
+                    frame[RULE] = k;
+                    frame[HYPOTHESIS] = 0;
+                    frame[STAGE] = book.turning[k] ? COMPARE : APPLY;
+                    return;
                 }
             }
             frame[STAGE] = UNFOLD;
         }
 
-        private boolean isSmaller(int term, int than) {
+        /** Goes on with a RULE that turns variables round only if that makes the call SMALLER. */
+        private void compare(int[] frame) {
+            terms.matches(book.lefts[frame[RULE]], frame[MAIN]);
             mine.clear();
-            mine.write(term);
+            mine.write(terms.rebuilt(book.rights[frame[RULE]], FILL));
             other.clear();
-            other.write(than);
-            for (int k = 0; k < mine.length && k < other.length; k++) {
-                if (mine.letters[k] != other.letters[k]) {
-                    return mine.letters[k] < other.letters[k];
-                }
+            other.write(frame[MAIN]);
+            int at = 0;
+            while (at < mine.length && at < other.length && mine.letters[at] == other.letters[at]) {
+                at++;
             }
-            return mine.length < other.length;
+            int letter = at < mine.length ? mine.letters[at] : NONE;
+            int otherLetter = at < other.length ? other.letters[at] : NONE;
+            frame[STAGE] = letter < otherLetter ? APPLY : SEEK;
+            frame[RULE] -= letter < otherLetter ? 0 : 1;
         }
 
         /** Asks for the next HYPOTHESIS of the RULE, or, behind the last one, for its right side. */
@@ -1861,7 +1836,7 @@ public final class ProofHouse {
         }
     }
 
-    /** The PATHS of a function's body, and the literals that defun and induct make of them. */
+    /** The PATHS of a function's body, the HINTS, and the clauses that defun, defthm and induct make of them. */
     private static final class Schemes {
         private static final int IF_LIMIT = 64;
         private static final int CALL_LIMIT = 128;
@@ -1877,6 +1852,8 @@ public final class ProofHouse {
         private final int[] calls = new int[CALL_LIMIT];
         private int callCount = 0;
         private final int[] filled = new int[PARAMETER_LIMIT];
+        /** The (f v ..) of the HINT induct; NONE without one. */
+        private int induction = NONE;
 
         Schemes(Room room, Book book, Terms terms) {
             this.room = room;
@@ -1994,6 +1971,20 @@ public final class ProofHouse {
             }
         }
 
+        /** Turns off, for this command, the RULES that the HINTS name. */
+        void mute(int hints) {
+            for (int rest = hints; room.isPair(rest); rest = room.right(rest)) {
+                int hint = room.left(rest);
+                int names = room.left(hint) == OFF ? room.right(hint) : NIL;
+                for (int at = names; room.isPair(at); at = room.right(at)) {
+                    int theorem = book.theoremOf(room.left(at));
+                    if (theorem != NONE) {
+                        book.muted[theorem] = true;
+                    }
+                }
+            }
+        }
+
         /** For each use among the HINTS, NOT the theorem's formula with these terms for these variables. */
         void addUses(Clause clause, int hints) {
             for (int rest = hints; room.isPair(rest) && room.trouble == 0; rest = room.right(rest)) {
@@ -2006,8 +1997,8 @@ public final class ProofHouse {
             }
         }
 
-        /** The clauses of a theorem; the induction is (f v ..), or NONE. */
-        void addTheoremClauses(Prover prover, int formula, int hints, int induction) {
+        /** The clauses of a theorem whose HINTS were asked. */
+        void addTheoremClauses(Prover prover, int formula, int hints) {
             Clause uses = prover.spare;
             uses.clear();
             addUses(uses, hints);
@@ -2027,6 +2018,55 @@ public final class ProofHouse {
                 terms.join(clause, formula);
                 more = goToPath(NONE);
             }
+        }
+
+        /** Asks whether the HINTS are as told, and finds the induction among them: an ANSWER. */
+        int hintsAsked(int hints) {
+            int answer = DONE;
+            induction = NONE;
+            boolean off = false;
+            for (int rest = hints; room.isPair(rest); rest = room.right(rest)) {
+                int hint = room.left(rest);
+                int length = room.lengthOf(hint);
+                int head = length < 2 ? NONE : room.left(hint);
+                int said = NOT_AS_TOLD;
+                if (head == INDUCT && length == 2 && induction == NONE) {
+                    induction = room.item(hint, 1);
+                    said = inductionAsked(induction);
+                } else if (head == USE) {
+                    said = useAsked(room.item(hint, 1), room.right(room.right(hint)));
+                } else if (head == OFF && !off) {
+                    off = true;
+                    said = offAsked(room.right(hint));
+                }
+                if (said == NOT_AS_TOLD) {
+                    return said;
+                }
+                answer = Math.max(answer, said);
+            }
+            return answer;
+        }
+
+        private int useAsked(int used, int pairs) {
+            if (!room.isName(used) || !terms.bindPairs(pairs)) {
+                return NOT_AS_TOLD;
+            }
+            int theorem = book.theoremOf(used);
+            if (theorem == NONE) {
+                return NAME_WRONG;
+            }
+            return terms.hasBound(book.formulas[theorem]) ? DONE : NOT_AS_TOLD;
+        }
+
+        private int offAsked(int names) {
+            int answer = DONE;
+            for (int rest = names; room.isPair(rest); rest = room.right(rest)) {
+                if (!room.isName(room.left(rest))) {
+                    return NOT_AS_TOLD;
+                }
+                answer = book.theoremOf(room.left(rest)) == NONE ? NAME_WRONG : answer;
+            }
+            return answer;
         }
 
         /** Whether the list is (f v ..) as an induction wants it: an ANSWER. */
@@ -2099,7 +2139,8 @@ public final class ProofHouse {
             return clause;
         }
 
-        void prove() {
+        void prove(boolean fromNotes) {
+            checking = fromNotes;
             leftCount = 0;
             for (int k = 0; k < givenCount && leftCount < LEFT_LIMIT && room.trouble == 0; k++) {
                 waiting[0].copy(given[k]);
@@ -2248,12 +2289,9 @@ public final class ProofHouse {
             return list;
         }
 
-        /** Makes each ROUND again, with what the notes say that came out of its literals. */
-        boolean doRoundsHold() {
-            checking = true;
-            prove();
-            checking = false;
-            return room.trouble == 0 && leftCount == 0 && rewriter.isAllRecalled();
+        /** Whether nothing was LEFT, and, where the notes were asked, there are no more of them. */
+        boolean isAllProved() {
+            return room.trouble == 0 && leftCount == 0 && (!checking || rewriter.isAllRecalled());
         }
     }
 
@@ -2595,16 +2633,14 @@ public final class ProofHouse {
     private int textLength = 0;
     private final int[] waiting = new int[WAITING_BYTES / 4];
     private int fuelSet = FUEL_LIMIT;
-    /** Of the command: the name that it gives or names, its term, its measure, its (f v ..), its HINTS. */
+    /** Of the command: the name that it gives or names, its term, its measure, its HINTS. */
     private int name = NONE;
     private int subject = NONE;
     private int measure = NONE;
-    private int induction = NONE;
     private int hints = NIL;
     private int stepsMade = 0;
     private int workFault = 0;
-    /** Whether the latest command has clauses TO PROVE, and whether none was LEFT. */
-    private boolean proving = false;
+    /** Whether the latest command had clauses TO PROVE, and none was LEFT. */
     private boolean proved = false;
 
     public ProofHouse() {
@@ -2658,8 +2694,8 @@ public final class ProofHouse {
         room.begin(fuelSet);
         prepare(order);
         // These two stand here and not below, since the calls that they make go deep.
-        if (proving && room.trouble == 0) {
-            prover.prove();
+        if (room.trouble == 0) {
+            prover.prove(false);
         }
         if (room.left(order) == CHECK) {
             proofs.goThrough(room.item(order, 3));
@@ -2740,7 +2776,9 @@ public final class ProofHouse {
             return false;
         }
         room.begin(MANY);
-        return rewriter.doNotesHold() && prover.doRoundsHold();
+        boolean hold = rewriter.doNotesHold();
+        prover.prove(true);
+        return hold && prover.isAllProved();
     }
 
     private void forgetLatest() {
@@ -2752,11 +2790,9 @@ public final class ProofHouse {
         name = NONE;
         subject = NONE;
         measure = NONE;
-        induction = NONE;
         hints = NIL;
         stepsMade = 0;
         workFault = 0;
-        proving = false;
         proved = false;
     }
 
@@ -2765,7 +2801,7 @@ public final class ProofHouse {
         if (!isAsTold(order)) {
             return NOT_AS_TOLD;
         }
-        int answer = hintsAsked();
+        int answer = schemes.hintsAsked(hints);
         return answer == DONE ? nameAsked(order) : answer;
     }
 
@@ -2826,53 +2862,6 @@ public final class ProofHouse {
                 && (!measured || terms.hasVariablesOf(measure, parameters));
     }
 
-    private int hintsAsked() {
-        int answer = DONE;
-        boolean off = false;
-        for (int rest = hints; room.isPair(rest); rest = room.right(rest)) {
-            int hint = room.left(rest);
-            int length = room.lengthOf(hint);
-            int head = length < 2 ? NONE : room.left(hint);
-            int said = NOT_AS_TOLD;
-            if (head == INDUCT && length == 2 && induction == NONE) {
-                induction = room.item(hint, 1);
-                said = schemes.inductionAsked(induction);
-            } else if (head == USE) {
-                said = useAsked(room.item(hint, 1), room.right(room.right(hint)));
-            } else if (head == OFF && !off) {
-                off = true;
-                said = offAsked(room.right(hint));
-            }
-            if (said == NOT_AS_TOLD) {
-                return said;
-            }
-            answer = Math.max(answer, said);
-        }
-        return answer;
-    }
-
-    private int useAsked(int used, int pairs) {
-        if (!room.isName(used) || !terms.bindPairs(pairs)) {
-            return NOT_AS_TOLD;
-        }
-        int theorem = book.theoremOf(used);
-        if (theorem == NONE) {
-            return NAME_WRONG;
-        }
-        return terms.hasBound(book.formulas[theorem]) ? DONE : NOT_AS_TOLD;
-    }
-
-    private int offAsked(int names) {
-        int answer = DONE;
-        for (int rest = names; room.isPair(rest); rest = room.right(rest)) {
-            if (!room.isName(room.left(rest))) {
-                return NOT_AS_TOLD;
-            }
-            answer = book.theoremOf(room.left(rest)) == NONE ? NAME_WRONG : answer;
-        }
-        return answer;
-    }
-
     private int nameAsked(int order) {
         int theorem = book.theoremOf(name);
         switch (room.left(order)) {
@@ -2910,13 +2899,11 @@ public final class ProofHouse {
                 break;
             case PROVE:
             case DEFTHM:
-                proving = true;
-                mute();
-                schemes.addTheoremClauses(prover, subject, hints, induction);
+                schemes.mute(hints);
+                schemes.addTheoremClauses(prover, subject, hints);
                 break;
             case DEFUN:
-                proving = measure != NONE;
-                if (proving) {
+                if (measure != NONE) {
                     schemes.addMeasureClauses(prover, name, room.item(order, 2), subject, measure);
                 }
                 break;
@@ -2948,20 +2935,6 @@ public final class ProofHouse {
         }
     }
 
-    /** Turns off, for this command, the RULES that the HINTS name. */
-    private void mute() {
-        for (int rest = hints; room.isPair(rest); rest = room.right(rest)) {
-            int hint = room.left(rest);
-            int names = room.left(hint) == OFF ? room.right(hint) : NIL;
-            for (int at = names; room.isPair(at); at = room.right(at)) {
-                int theorem = book.theoremOf(room.left(at));
-                if (theorem != NONE) {
-                    book.muted[theorem] = true;
-                }
-            }
-        }
-    }
-
     /** Takes what the command was to give, or tells why not: the ANSWER. */
     private int conclude(int order, int mark) {
         int head = room.left(order);
@@ -2970,11 +2943,11 @@ public final class ProofHouse {
             prover.begin();
             return NOT_WORKED;
         }
-        if (proving && prover.leftCount > 0) {
+        if (prover.leftCount > 0) {
             out.write(prover.listOfLeft());
             return head == DEFUN ? NOT_FALLING : NOT_PROVED;
         }
-        proved = proving;
+        proved = prover.givenCount > 0;
         if (head == CHECK && shownWrong() != NONE) {
             out.write(shownWrong());
             return PROOF_WRONG;

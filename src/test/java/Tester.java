@@ -77,12 +77,12 @@ final class Tester {
         asked++;
         if (!got.equals(due)) {
             wrong++;
-            System.out.println(what + ": " + got + ", due is " + due);
+            System.out.println(shortened(what) + ": " + got + ", due is " + due);
         }
     }
 
-    static String times(String text, int n) {
-        return text.repeat(n);
+    private static String shortened(String text) {
+        return text.length() <= 300 ? text : text.substring(0, 200) + " .. " + text.substring(text.length() - 80);
     }
 
     /** Ends a test's main method. */
