@@ -231,6 +231,15 @@ public final class CheckTest {
         t.unworked("(check a t (weak (" + terms + ") (same x)))", 4, 2);
         clause(t, "(weak (" + terms.substring(3) + ") (same x))",
                 "((equal x x) " + terms.substring(3).trim() + ")", 2);
+        // SIZES of 400 together, with the (equal x x), and of 401.
+        String heavy = "(cons v ".repeat(35) + "v" + ")".repeat(35);
+        StringBuilder most = new StringBuilder();
+        for (int k = 0; k < 5; k++) {
+            most.append(heavy.replace("v", "v" + k)).append(' ');
+        }
+        most.append("(cons v ".repeat(20)).append("v").append(")".repeat(20)).append(" a ");
+        Tester.same("SIZES of 400", t.run("(check a t (weak (" + most + ") (same x)))"), 7);
+        t.unworked("(check a t (weak (" + most + "b) (same x)))", 4, 2);
         t.house.fuel(2);
         t.unworked("(check a t (swap (swap (same x))))", 1, 2);
         t.house.fuel(1000);

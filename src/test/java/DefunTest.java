@@ -93,6 +93,9 @@ public final class DefunTest {
         // From the left; NOT of each RULER: of the second term NOT it, of the third one it.
         String body = "(if x (if (not y) (f 1 x) (f 2 x)) (if y (cons (f 3 x) (f 4 y)) 0))";
         t.due("(defun f (x y) " + body + " 0)", 5, "(((not x) y) ((not x) (not y)) (x (not y)) (x (not y)))");
+        // The first literal comes out as (not x), like one behind, which goes; or like one ahead, and goes itself.
+        t.due("(defun f (x y z) (if (car (cons x y)) (if z 0 (if x (f x y z) 0)) 0) x)", 5, "(((not x) z))");
+        t.due("(defun f (x y z) (if x (if z 0 (if (car (cons x y)) (f x y z) 0)) 0) x)", 5, "(((not x) z))");
         // Where y is nil, so is its car.
         t.due("(defun f (x y) " + body + " (car y))", 5,
                 "(((not x) y (< (car x) nil)) ((not x) (not y) (< (car x) (car y)))"

@@ -119,6 +119,9 @@ public final class ProveTest {
         t.due("(prove (equal u v) (induct (len w)))", 6, "(((consp w) (equal u v)))");
         t.due("(prove (equal u v) (induct (app v u)))", 6,
                 "(((not (consp v)) (not (equal u (cdr v))) (equal u v)) ((consp v) (equal u v)))");
+        t.done("(defun six (a b c d e f) (if (consp f) (six b c d e a (cdr f)) a) (height f))");
+        t.due("(prove (equal a f) (induct (six a b c d e f)))", 6,
+                "(((not (consp f)) (not (equal b (cdr f))) (equal a f)) ((consp f) (equal a f)))");
     }
 
     private static void use() {

@@ -231,6 +231,11 @@ public final class SimplifyTest {
         // Two names of which one is the start of the other: a blank or ) is lower than any letter.
         t.due("(simplify (p aa a))", 0, "3", 3 + 1 + 3 + 1 + 1);
         t.due("(simplify (p a aa))", 0, "3", 3 + 1 + 1);
+        // They differ in the 200th character, the first behind sixteen items of the constants; or in the next one.
+        String same = "abcdefghijk ".repeat(16);
+        t.done("(defun u (x y z) 3)").done("(defthm turnu (equal (u z x y) (u z y x)))");
+        t.due("(simplify (u z '(" + same + "y) '(" + same + "x)))", 0, "3", 4 + 1 + 4 + 1 + 1);
+        t.due("(simplify (u zz '(" + same + "y) '(" + same + "x)))", 0, "3", 4 + 1 + 1);
         // They differ only behind the 200th character: none is SMALLER.
         String long1 = "'(" + "abcdefghijk ".repeat(17) + "x)";
         String long2 = "'(" + "abcdefghijk ".repeat(17) + "y)";
