@@ -2070,10 +2070,10 @@ public final class ProofHouse {
         }
 
         /** Whether the list is (f v ..) as an induction wants it: an ANSWER. */
-        int inductionAsked(int induction) {
-            int name = room.left(induction);
-            int width = room.lengthOf(induction) - 1;
-            if (width < 0 || !room.isName(name) || !terms.areDifferentVariables(room.right(induction))) {
+        int inductionAsked(int call) {
+            int name = room.left(call);
+            int width = room.lengthOf(call) - 1;
+            if (width < 0 || !room.isName(name) || !terms.areDifferentVariables(room.right(call))) {
                 return NOT_AS_TOLD;
             }
             int function = book.functionOf(name);
