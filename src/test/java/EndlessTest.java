@@ -14,6 +14,7 @@ public final class EndlessTest {
             long second = wild(new Random(seed), new ProofHouse());
             Tester.same("the answers of seed " + seed, second, first);
         }
+        dearCommand();
         muchIsTaken();
         Tester.finish();
     }
@@ -68,6 +69,31 @@ public final class EndlessTest {
             house.feed(words[0], words[1], words[2], words[3], words[4]);
             house.end(m);
         }
+    }
+
+    /** Nearly the most that 512 calls can make in one command: each HYPOTHESIS is a great instance, asked in three STEPS. */
+    private static void dearCommand() {
+        Tester t = new Tester();
+        Random random = new Random(1);
+        t.done("(defun g (x) x)").done("(defun h (x) x)").done("(defun f (x) 1)");
+        for (int k = 0; k < 9; k++) {
+            String great = "(cons " + chain(random) + " (cons " + chain(random) + " " + chain(random) + "))";
+            t.done("(defthm a" + k + " (implies (if t nil " + great + ") (equal (f x) 1)))");
+        }
+        StringBuilder calls = new StringBuilder("nil");
+        for (int k = 0; k < 24; k++) {
+            calls.insert(0, "(cons (f v" + k + ") ").append(')');
+        }
+        // Each (f v): f, v, nine times a match and its HYPOTHESIS, and the body.
+        t.due("(simplify " + calls + ")", 0, "'(" + "1 ".repeat(23) + "1)", 24 + 1 + 24 * (2 + 9 * 4 + 1));
+    }
+
+    private static String chain(Random random) {
+        String chain = "x";
+        for (int k = 0; k < 33; k++) {
+            chain = (random.nextBoolean() ? "(g " : "(h ") + chain + ")";
+        }
+        return chain;
     }
 
     /** More than 512 calls can bring: all entries with long texts, again and again. */
