@@ -111,10 +111,14 @@ public final class ProofHouse {
      * it, so every walk along them ends. What was made last is forgotten first.
      */
     private static final class Room {
-        /** More than 512 calls can fill: the dearest 1000 STEPS make some sixty nodes each. */
-        private static final int NODE_LIMIT = 1 << 16;
-        private static final int SLOTS = 1 << 13;
-        private static final int SLOT_SHIFT = 51;
+        /**
+         * More than 512 calls can fill. The dearest PROOFS are inst and put, of seven words at least: each remakes a
+         * clause of 400 with two nodes for each call, so 1000 words make fewer than 115,000. A STEP of REWRITING makes
+         * fewer than ninety, the clauses that are given fewer than 15,000, all the texts fewer than 15,000.
+         */
+        private static final int NODE_LIMIT = 160000;
+        private static final int SLOTS = 1 << 15;
+        private static final int SLOT_SHIFT = 49;
         private static final long SPREAD = 0x9E3779B97F4A7C15L;
         private static final int SUM_LIMIT = 1000000;
 
@@ -1301,7 +1305,11 @@ public final class ProofHouse {
             literals[place] = literal;
             length++;
             weight += size;
-            return weight <= WEIGHT_LIMIT;
+            return !isTooBig();
+        }
+
+        boolean isTooBig() {
+            return weight > WEIGHT_LIMIT;
         }
 
         void remove(int place, int size) {
@@ -2210,8 +2218,11 @@ public final class ProofHouse {
                 changed = changed || !same;
                 at += same || stands(clause, at, out) ? 1 : 0;
             }
-            if (!changed && room.trouble == 0) {
+            // Only what comes of the whole ROUND is a clause that is made, so it is measured here and not before.
+            if (!changed) {
                 leave(clause);
+            } else if (clause.isTooBig()) {
+                room.blame(TOO_BIG);
             }
         }
 
@@ -2235,9 +2246,7 @@ public final class ProofHouse {
             if (twin != NONE) {
                 clause.remove(twin, room.sizeOf(out));
             }
-            if (!clause.insert(at, out, room.sizeOf(out))) {
-                room.blame(TOO_BIG);
-            }
+            clause.insert(at, out, room.sizeOf(out));
             return true;
         }
 
@@ -2581,9 +2590,12 @@ public final class ProofHouse {
             for (int k = 0; k < second.length; k++) {
                 negation = terms.isNegation(second.literals[k], literal) ? second.literals[k] : negation;
             }
+            if (first.placeOf(literal) == NONE || negation == NONE) {
+                return false;
+            }
             joinAllBut(made, first, literal);
             joinAllBut(made, second, negation);
-            return first.placeOf(literal) != NONE && negation != NONE;
+            return true;
         }
 
         /** Whether each part's clause has no literals but those that induct has for its PATH. */

@@ -732,8 +732,12 @@ final class Model {
 
     // CLAUSES
 
+    private static List<Term> different(List<Term> literals) {
+        return new ArrayList<>(new java.util.LinkedHashSet<>(literals));
+    }
+
     private static List<Term> clause(List<Term> literals) {
-        List<Term> clause = new ArrayList<>(new java.util.LinkedHashSet<>(literals));
+        List<Term> clause = different(literals);
         if (clause.size() > 30 || clause.stream().mapToInt(x -> x.size).sum() > 400) {
             throw fault(4);
         }
@@ -799,7 +803,7 @@ final class Model {
                 takeUp(two, rounds + 1, leftOnes);
                 return;
             }
-            List<Term> changed = o == nil ? around(now, k) : clause(around(now, k, o));
+            List<Term> changed = o == nil ? around(now, k) : different(around(now, k, o));
             boolean stays = k < changed.size() && changed.get(k) == o && o != nil;
             now = changed;
             k += stays ? 1 : 0;
@@ -807,7 +811,7 @@ final class Model {
         if (now.equals(clause)) {
             leftOnes.add(clause);
         } else {
-            takeUp(now, rounds + 1, leftOnes);
+            takeUp(clause(now), rounds + 1, leftOnes);
         }
     }
 
@@ -868,7 +872,7 @@ final class Model {
         }
     }
 
-    private static List<String> different(List<Object> objects) {
+    private static List<String> differentNames(List<Object> objects) {
         List<String> names = new ArrayList<>();
         for (Object object : objects) {
             names.add(variableName(object));
@@ -969,7 +973,7 @@ final class Model {
         List<Object> listed = items(items.get(2));
         need(listed != null && listed.size() <= 6);
         Function function = new Function();
-        function.parameters = different(listed);
+        function.parameters = differentNames(listed);
         function.body = term(items.get(3), f, listed.size());
         function.measure = items.size() == 5 ? term(items.get(4), f, -5) : null;
         need(function.parameters.containsAll(variables(function.body)));
@@ -1008,7 +1012,7 @@ final class Model {
         List<Object> items = items(object);
         need(items != null && !items.isEmpty());
         String f = name(items.get(0));
-        List<String> names = different(items.subList(1, items.size()));
+        List<String> names = differentNames(items.subList(1, items.size()));
         Function function = functions.get(f);
         if (function == null) {
             missing = true;
