@@ -240,6 +240,16 @@ public final class CheckTest {
         most.append("(cons v ".repeat(20)).append("v").append(")".repeat(20)).append(" a ");
         Tester.same("SIZES of 400", t.run("(check a t (weak (" + most + ") (same x)))"), 7);
         t.unworked("(check a t (weak (" + most + "b) (same x)))", 4, 2);
+        // What is told of the parts' clauses comes ahead of the clause that would be TOO BIG.
+        String fifteen = terms.substring(0, terms.indexOf("v15"));
+        String others = terms.substring(terms.indexOf("v15"));
+        String long1 = "(weak (" + fifteen.trim() + ") (same x))";
+        String long2 = "(weak (" + others.trim() + ") (same y))";
+        String wrong1 = "(cut z " + long1 + " " + long2.replace("(v15", "((not z) v15") + ")";
+        wrong(t, wrong1, wrong1, 5);
+        String wrong2 = "(cut z " + long1.replace("(v0", "(z v0") + " " + long2 + ")";
+        wrong(t, wrong2, wrong2, 5);
+        t.unworked("(check a t (cut z " + long1.replace("(v0", "(z v0") + " " + long2.replace("(v15", "((not z) v15") + "))", 4, 5);
         t.house.fuel(2);
         t.unworked("(check a t (swap (swap (same x))))", 1, 2);
         t.house.fuel(1000);

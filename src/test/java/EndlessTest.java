@@ -15,6 +15,7 @@ public final class EndlessTest {
             Tester.same("the answers of seed " + seed, second, first);
         }
         dearCommand();
+        dearProof();
         muchIsTaken();
         Tester.finish();
     }
@@ -77,7 +78,7 @@ public final class EndlessTest {
         Random random = new Random(1);
         t.done("(defun g (x) x)").done("(defun h (x) x)").done("(defun f (x) 1)");
         for (int k = 0; k < 9; k++) {
-            String great = "(cons " + chain(random) + " (cons " + chain(random) + " " + chain(random) + "))";
+            String great = "(cons " + chain(random, 33) + " (cons " + chain(random, 33) + " " + chain(random, 33) + "))";
             t.done("(defthm a" + k + " (implies (if t nil " + great + ") (equal (f x) 1)))");
         }
         StringBuilder calls = new StringBuilder("nil");
@@ -88,9 +89,42 @@ public final class EndlessTest {
         t.due("(simplify " + calls + ")", 0, "'(" + "1 ".repeat(23) + "1)", 24 + 1 + 24 * (2 + 9 * 4 + 1));
     }
 
-    private static String chain(Random random) {
+    /** Nearly the most that 1000 words can make: each inst makes all of a clause anew whose SIZES are 400 together. */
+    private static void dearProof() {
+        Tester t = new Tester();
+        Random random = new Random(2);
+        t.done("(defun g (x) x)").done("(defun h (x) x)");
+        String all = "";
+        for (int k = 0; k < 4; k++) {
+            int depth = k < 3 ? 27 : 9;
+            String halves = "(cons " + chain(random, depth) + " " + chain(random, depth) + ")";
+            t.done("(defthm t" + k + " (if t t (cons " + halves + " " + halves.replace("(g (h ", "(h (g ") + ")))");
+            String one = "(thm t" + k + ")";
+            all = k == 0 ? one : "(cut y (weak (y) " + all + ") (weak ((not y)) " + one + "))";
+        }
+        String proof = instances(all, 0);
+        for (int row = 1; row <= 3; row++) {
+            proof = "(cut y " + instances(all, row) + " " + proof + ")";
+        }
+        // The innermost cut is wrong, its first part doesn't have y.
+        String wrong = proof.substring(proof.lastIndexOf("(cut y (inst"), proof.length() - 2);
+        t.due("(check a t " + proof + ")", 7, wrong, 4 * (23 + 13) + 3);
+    }
+
+    private static String instances(String proof, int row) {
+        String made = proof;
+        String before = "x";
+        for (int k = 0; k < 23; k++) {
+            String next = "v" + row + (char) ('a' + k);
+            made = "(inst " + made + " (" + before + " " + next + "))";
+            before = next;
+        }
+        return made;
+    }
+
+    private static String chain(Random random, int depth) {
         String chain = "x";
-        for (int k = 0; k < 33; k++) {
+        for (int k = 0; k < depth; k++) {
             chain = (random.nextBoolean() ? "(g " : "(h ") + chain + ")";
         }
         return chain;

@@ -7,6 +7,7 @@ import java.util.Random;
 /** Runs of random commands on the class and on the Model: every answer of one is due from the other. */
 public final class ModelTest {
     private static final int RUNS = 1500;
+    private static final int LIMIT_RUNS = 400;
     private static final String[] VARIABLES = {"x", "y", "z", "n", "a", "b", "quote"};
     private static final String[] DEFINITIONS = {
         "(defun len (x) (if (consp x) (+ 1 (len (cdr x))) 0) (height x))",
@@ -39,15 +40,20 @@ public final class ModelTest {
     private final Random random;
     private final Tester house = new Tester();
     private final Model model = new Model();
+    private final LimitCommands limits;
     private int named = 0;
 
-    private ModelTest(int seed) {
+    private ModelTest(int seed, boolean nearLimits) {
         random = new Random(seed);
+        limits = nearLimits ? new LimitCommands(random, model) : null;
     }
 
     public static void main(String[] args) {
         for (int seed = 0; seed < RUNS; seed++) {
-            new ModelTest(seed).compare(seed);
+            new ModelTest(seed, false).compare(seed);
+        }
+        for (int seed = 0; seed < LIMIT_RUNS; seed++) {
+            new ModelTest(seed, true).compare(seed);
         }
         Tester.finish();
     }
@@ -61,7 +67,7 @@ public final class ModelTest {
                 house.house.fuel(model.fuel);
                 told.append("; fuel ").append(model.fuel);
             }
-            String command = random.nextInt(20) == 0 ? spoiled(command()) : command();
+            String command = limits != null ? limits.next() : random.nextInt(20) == 0 ? spoiled(command()) : command();
             command = command.substring(0, Math.min(3000, command.length()));
             told.append("; ").append(command);
             String due = answers(command);

@@ -13,6 +13,7 @@ public final class ProveTest {
         onAndOff();
         roomAndNames();
         faults();
+        grownInARound();
         Tester.finish();
     }
 
@@ -243,5 +244,38 @@ public final class ProveTest {
             heavy.append("(use id (x ").append(forty.replace("x", "v" + k)).append("))");
         }
         t.unworked("(prove x " + heavy + ")", 4, 0);
+    }
+
+    /** A clause is measured as it is made: behind a ROUND, or as one of two, but not in the midst of a ROUND. */
+    private static void grownInARound() {
+        Tester t = new Tester();
+        t.done("(defun q (x n) (if (consp n) (q x (cdr n)) t) (height n))").done("(defthm a (q x n) (induct (q x n)))");
+        String ninetyFive = "(equal " + chain("car", 30) + " (equal " + chain("cdr", 30) + " " + chain("height", 30) + "))";
+        t.done("(defun g (y) " + ninetyFive.replace("x", "y") + ")");
+        StringBuilder uses = new StringBuilder(" (off a)");
+        for (int k = 0; k < 4; k++) {
+            uses.append(" (use a (x (g v").append(k).append(")))");
+        }
+        // Each (not (q (g v) n)), of SIZE 5, comes out with one of 98: not, q, g, v, its body, n, (consp n), n.
+        int grown = 4 + 95 + 3;
+        String eight = chain("car", 7).replace("x", "p");
+        t.due("(prove (equal " + eight + " " + eight + ")" + uses + ")", 0, "", 4 * grown + 17);
+        Tester.same("recheck", t.house.recheck(), true);
+        // 4 * 98 + 8 is not TOO BIG, one more is, but only behind the ROUND.
+        t.house.fuel(2 * (4 * grown + 8) - 4 * 2);
+        Tester.same("SIZES of 400", t.run("(prove " + eight + uses + ")"), 6);
+        t.unworked("(prove (car " + eight + ")" + uses + ")", 4, 4 * grown + 9);
+        // What goes, or becomes less, behind the literals that grow counts as it is then.
+        String three = uses.substring(0, uses.lastIndexOf(" (use"));
+        String cropped = "(car (cons p (cons " + eight + " " + ninetyFive.replace("x", "p") + ")))";
+        t.house.fuel(1000);
+        Tester.same("SIZES that fall", t.run("(prove (cons 1 " + cropped + ")" + three + ")"), 6);
+        t.due("(prove (if p (equal r " + cropped + ") t)" + three + ")", 6, t.out().replace("(cons 1 p)", "(not p) (equal r p)"));
+        // One of two that is TOO BIG.
+        t.unworked("(prove (if s r (equal r " + eight + "))" + uses + ")", 4, 4 * grown + 3 + 2 + 8);
+    }
+
+    private static String chain(String name, int depth) {
+        return ("(" + name + " ").repeat(depth) + "x" + ")".repeat(depth);
     }
 }
