@@ -1305,7 +1305,7 @@ public final class ProofHouse {
             literals[place] = literal;
             length++;
             weight += size;
-            return !isTooBig();
+            return weight <= WEIGHT_LIMIT;
         }
 
         boolean isTooBig() {
