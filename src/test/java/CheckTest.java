@@ -13,6 +13,7 @@ public final class CheckTest {
         order();
         wholeProof();
         limits();
+        manyParts();
         Tester.finish();
     }
 
@@ -256,5 +257,27 @@ public final class CheckTest {
         String deep = "(swap ".repeat(37) + "(same x)" + ")".repeat(37);
         t.due("(check a (equal x x) " + deep + ")", 0, "", 38);
         Tester.same("theorems", t.house.count(1), 1);
+    }
+
+    /** Nearly as many PATHS as a body can have, and nearly as many clauses held at once as 1000 words can bring. */
+    private static void manyParts() {
+        Tester t = new Tester();
+        t.done("(defun f (x) (if nil (f x) " + choices(38) + ") x)");
+        String proof = "(same x)";
+        for (int k = 1; k <= 5; k++) {
+            proof = "(induct (equal x x) (f x)" + " (same x)".repeat(39) + " " + proof + ")";
+            t.due("(check a" + k + " (equal x x) " + proof + ")", 0, "", 40 * k + 1);
+        }
+        // The first PATH has t, and NOT F for its call of f; the others have nil or x or (not x), and F.
+        t.due("(check b (equal x x) " + proof.replaceFirst("\\(same x\\)", "(weak (t (not (equal x x))) (same x))") + ")",
+                0, "", 40 * 5 + 2);
+        Tester.same("another PATH", t.run("(check c t " + proof.replaceFirst("\\(same x\\) \\(same x\\)",
+                "(same x) (weak (t) (same x))") + ")"), 7);
+    }
+
+    /** A term with so many calls of if, all of which are on PATHS. */
+    private static String choices(int calls) {
+        int half = (calls - 1) / 2;
+        return calls == 0 ? "x" : "(if x " + choices(half) + " " + choices(calls - 1 - half) + ")";
     }
 }

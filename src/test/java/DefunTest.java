@@ -11,6 +11,7 @@ public final class DefunTest {
         paths();
         room();
         faults();
+        manyCalls();
         Tester.finish();
     }
 
@@ -129,5 +130,18 @@ public final class DefunTest {
         t.unworked("(defun f (x) (if (consp x) (f (cons x (cons x x))) 1) " + m + ")", 4, 0);
         String half = "(+ x ".repeat(14) + "x" + ")".repeat(14);
         Tester.same("a smaller one isn't", t.run("(defun f (x) (if (consp x) (f (cdr x)) 1) " + half + ")"), 5);
+    }
+
+    /** As many clauses as calls, each as often as it stands. */
+    private static void manyCalls() {
+        Tester t = new Tester();
+        t.done("(defun k (a b c d e f) 1)");
+        String six = "(k" + " (f)".repeat(6) + ")";
+        String many = "(k" + (" (k" + (" " + six).repeat(6) + ")").repeat(2) + (" " + six).repeat(2) + " (f) (f))";
+        // NOT nil is t: all 86 are PROVED as they are taken up.
+        t.due("(defun f () (if nil " + many + " 0) 0)", 0, "", 0);
+        Tester.same("recheck", t.house.recheck(), true);
+        t.done("(undo)").due("(defun f () " + many + " 0)", 5, "(" + "nil ".repeat(19) + "nil)", 20 * 3);
+        Tester.same("LEFT", t.house.count(4), 20);
     }
 }
