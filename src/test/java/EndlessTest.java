@@ -8,6 +8,8 @@ public final class EndlessTest {
         "put ", "swap ", "inst ", "cut ", "weak ", "(x 1)", "4611686018427387903 ", "A", "\u00ff",
         "(defun f (x) (if (consp x) (f (cdr x)) x) (height x))", "(prove (equal (f x) x) (induct (f x)))"};
 
+    private static final String[] ENDS = {"car", "cdr", "height", "consp"};
+
     public static void main(String[] args) {
         for (int seed = 0; seed < 60; seed++) {
             long first = wild(new Random(seed), new ProofHouse());
@@ -97,8 +99,14 @@ public final class EndlessTest {
         String all = "";
         for (int k = 0; k < 4; k++) {
             int depth = k < 3 ? 27 : 9;
-            String halves = "(cons " + chain(random, depth) + " " + chain(random, depth) + ")";
-            t.done("(defthm t" + k + " (if t t (cons " + halves + " " + halves.replace("(g (h ", "(h (g ") + ")))");
+            StringBuilder tree = new StringBuilder("(cons (cons A B) (cons C D))");
+            for (char place = 'A'; place <= 'D'; place++) {
+                // No two of the chains begin alike, or they would share their ends.
+                String end = "(" + ENDS[k] + " (" + ENDS[place - 'A'] + " x))";
+                int at = tree.indexOf(String.valueOf(place));
+                tree.replace(at, at + 1, chain(random, depth - 2).replace("x", end));
+            }
+            t.done("(defthm t" + k + " (if t t " + tree + "))");
             String one = "(thm t" + k + ")";
             all = k == 0 ? one : "(cut y (weak (y) " + all + ") (weak ((not y)) " + one + "))";
         }
