@@ -4,6 +4,8 @@ import java.nio.charset.StandardCharsets;
 final class Tester {
     private static int wrong = 0;
     private static int asked = 0;
+    private static int sentences = 0;
+    private static String sentence = "";
 
     final ProofHouse house = new ProofHouse();
 
@@ -73,11 +75,17 @@ final class Tester {
         return this;
     }
 
+    /** Names the document's sentence that is asked from here on. */
+    static void sentence(String where, String words) {
+        sentences++;
+        sentence = where + ", '" + words + "': ";
+    }
+
     static void same(String what, Object got, Object due) {
         asked++;
         if (!got.equals(due)) {
             wrong++;
-            System.out.println(shortened(what) + ": " + got + ", due is " + due);
+            System.out.println(sentence + shortened(what) + ": " + got + ", due is " + due);
         }
     }
 
@@ -87,7 +95,8 @@ final class Tester {
 
     /** Ends a test's main method. */
     static void finish() {
-        System.out.println(asked - wrong + " of " + asked + " answers are as due");
+        String named = sentences == 0 ? "" : ", of " + sentences + " sentences";
+        System.out.println(asked - wrong + " of " + asked + " answers are as due" + named);
         if (wrong != 0 || asked == 0) {
             System.exit(1);
         }
