@@ -313,6 +313,7 @@ public final class ClauseBoundsTest {
         Tester t = new Tester();
         // (not (car (cons x y))) comes out as (not x), so the (not x) behind is not REWRITTEN; then once more.
         t.due("(defun f (x y z) (if (car (cons x y)) (if z 0 (if x (f x y z) 0)) 0) 0)", 5, "(((not x) z))", 5 + 1 + 3 + 2 + 1);
+        t.due("(defun f (x y) (if (car (cons x y)) (if x (f x y) 0) 0) 0)", 5, "(((not x)))", 5 + 3 + 2);
         // One ahead is the same: the later one goes.
         t.due("(defun f (x y z) (if x (if z 0 (if (car (cons x y)) (f x y z) 0)) 0) 0)", 5, "(((not x) z))",
                 2 + 1 + 5 + 3 + 2 + 1);

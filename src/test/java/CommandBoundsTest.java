@@ -48,6 +48,7 @@ public final class CommandBoundsTest {
                 t.due(order.substring(0, order.indexOf(' ')) + ")", 2, "", 0);
             }
         }
+        t.due("(defthm b)", 2, "").due("(defun f)", 2, "").due("(defun f ())", 2, "").due("(check c)", 2, "").due("(simplify)", 2, "");
         t.due("(undo 1)", 2, "").due("(undo nil)", 2, "").due("(eval 1 2)", 2, "").due("(simplify 1 2)", 2, "");
         t.due("(on a a)", 2, "").due("(off a a)", 2, "").due("(check c t (same 1) 1)", 2, "").due("(check c t)", 2, "");
         t.due("eval", 2, "").due("5", 2, "").due("()", 2, "").due("'(eval 1)", 2, "").due("((eval 1))", 2, "");
@@ -403,6 +404,10 @@ public final class CommandBoundsTest {
         rule(t, "(implies (natp y) (equal (c x) 3))", false);
         rule(t, "(implies (natp x) (equal (c x) 3))", true);
         rule(t, "(implies (if (natp x) (natp y) nil) (equal (c x) 3))", false);
+        rule(t, "(implies x (equal (c x) 3))", true);
+        rule(t, "(implies y (equal (c x) 3))", false);
+        rule(t, "(implies nil (equal (c x) x))", true);
+        rule(t, "(implies nil (equal (c x) y))", false);
         rule(t, "(implies 'y (equal (c x) 3))", true);
         rule(t, "(equal (p x y) (p x y))", false);
         rule(t, "(equal (p x y) (p y x))", true);

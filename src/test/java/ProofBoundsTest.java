@@ -246,6 +246,8 @@ public final class ProofBoundsTest {
         clause(t, "(put (taut (equal nil 5)) (taut (cons nil '(nil))))", "((cons 5 '(nil)) (not (cons 5 '(nil))) (not (equal nil 5)))", 3);
         clause(t, "(put (taut (equal (car x) x)) (taut (car (car x))))", "((car x) (not (car x)) (not (equal (car x) x)))", 3);
         clause(t, "(put (taut (equal car 1)) (taut (car car)))", "((car 1) (not (car 1)) (not (equal car 1)))", 3);
+        // What an inst within it stands for has no part in it.
+        clause(t, "(put (inst (taut (equal x y)) (y z)) (taut (cons x y)))", "((cons z y) (not (cons z y)) (not (equal x z)))", 4);
         wrong(t, "(put (taut (not (equal x y))) (taut x))", 3);
         wrong(t, "(put (taut x) (taut (equal x y)))", 3);
         // With more than 120 it is TOO BIG.

@@ -237,6 +237,9 @@ public final class RewriteBoundsTest {
         simple("(< (height (cdr (cons x y))) (height (cons x y)))", "(< (height y) (height (cons x y)))", 10);
         simple("(< (height (car (car x))) (height x))", "(< (height (car (car x))) (height x))", 7);
         simple("(< (height (car y)) (height x))", "(< (height (car y)) (height x))", 6);
+        simple("(< (height (car x)) (car x))", "(< (height (car x)) (car x))", 6);
+        simple("(< (car (car x)) (height x))", "(< (car (car x)) (height x))", 6);
+        simple("(< (height x) (height x))", "nil", 5);
         Tester.sentence(WHERE, "(< (- X K) X), K a natural above 0: (< 0 X), REWRITTEN");
         simple("(< (- x 1) x)", "(< 0 x)", 5 + 3);
         simple("(< (- x " + GREATEST + ") x)", "(< 0 x)", 5 + 3);
@@ -367,9 +370,16 @@ public final class RewriteBoundsTest {
         t.done("(undo)");
         // Two alike: no turning RULE, so it goes on and on.
         t.done("(defthm same (equal (p x y) (p y y)))").unworked("(simplify (p a b))", 2, 59 * 4 + 1).done("(undo)");
+        // Nor are those where a constant, or a call, stands for a variable.
+        t.done("(defthm left (equal (p x y) (p 1 y)))").unworked("(simplify (p 0 b))", 2, 59 * 4 + 1).done("(undo)");
+        t.done("(defthm right (equal (p x y) (p x 1)))").unworked("(simplify (p a 0))", 2, 59 * 4 + 1).done("(undo)");
         // Sides that differ otherwise: (p x 1) is not asked to be SMALLER.
         t.done("(defthm one (equal (p x 2) (p 2 x)))").due("(simplify (p a 2))", 0, "3", 3 + 1 + 3 + 1).done("(undo)");
-        t.done("(defthm one (equal (p 2 x) (p x 2)))").due("(simplify (p 2 a))", 0, "3", 3 + 1 + 3 + 1);
+        t.done("(defthm one (equal (p 2 x) (p x 2)))").due("(simplify (p 2 a))", 0, "3", 3 + 1 + 3 + 1).done("(undo)");
+        // Where it doesn't turn, the one ahead of it is next.
+        t.done("(defun s (x y) (if (consp x) (s (cdr x) y) 3) (height x))").done("(defthm three (equal (s x y) 3) (induct (s x y)))");
+        t.done("(defthm turn (equal (s x y) (s y x)) (use three) (use three (x y) (y x)))");
+        t.due("(simplify (s a b))", 0, "3", 3 + 1 + 1 + 1).due("(simplify (s b a))", 0, "3", 3 + 1 + 3 + 1 + 1 + 1);
     }
 
     private static void smaller() {
