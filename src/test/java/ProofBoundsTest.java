@@ -214,6 +214,8 @@ public final class ProofBoundsTest {
         Tester t = new Tester();
         clause(t, "(inst (taut (cons x y)))", "((cons x y) (not (cons x y)))", 2);
         clause(t, "(inst (taut (cons x y)) (x y) (y x))", "((cons y x) (not (cons y x)))", 2);
+        clause(t, "(inst (inst (taut (cons x y)) (x a)) (y b))", "((cons a b) (not (cons a b)))", 3);
+        clause(t, "(inst (inst (taut (cons x y)) (x y)) (y x))", "((cons x x) (not (cons x x)))", 3);
         clause(t, "(inst (taut x) (z 1))", "(x (not x))", 2);
         clause(t, "(inst (taut x) (x nil))", "(nil (not nil))", 2);
         clause(t, "(inst (taut (not x)) (x (not y)))", "((not (not y)) (not y))", 2);

@@ -8,6 +8,7 @@ public final class RewriteBoundsTest {
         constantsForTruth();
         depth();
         tests();
+        implications();
         outcomes();
         negations();
         sums();
@@ -93,6 +94,17 @@ public final class RewriteBoundsTest {
         simple("(if (not z) (cons z 1) (cons z 2))", "(if z (cons z 2) '(nil . 1))", 9);
     }
 
+    private static void implications() {
+        Tester.sentence(WHERE, "Of (implies A B): (if A (if B t nil) t), REWRITTEN");
+        simple("(implies x y)", "(if x (if y t nil) t)", 1 + 1 + 1 + 4 + 1);
+        simple("(implies x (natp y))", "(if x (natp y) t)", 1 + 1 + 1 + 5 + 1);
+        simple("(implies t (natp y))", "(natp y)", 1 + 1 + 1 + 5);
+        simple("(implies nil y)", "t", 1 + 1 + 1 + 1);
+        simple("(implies x 5)", "t", 1 + 1 + 1 + 3 + 1);
+        simple("(implies x nil)", "(not x)", 1 + 1 + 1 + 3 + 1);
+        simple("(implies x x)", "t", 1 + 1 + 1 + 3 + 1);
+    }
+
     private static void outcomes() {
         Tester.sentence(WHERE, "then B if both are the same; A if B is t, C is nil, and the TRUTH is wanted or A is BOOLEAN; "
                 + "(not A) if B is nil and C is t; else (if A B C)");
@@ -107,6 +119,9 @@ public final class RewriteBoundsTest {
         simple("(if x t t)", "t", 4);
         simple("(if x nil nil)", "nil", 4);
         simple("(if x t 5)", "(if x t 5)", 4);
+        // A call of if is not BOOLEAN.
+        simple("(if (if x y nil) t nil)", "(if (if x y nil) t nil)", 1 + 4 + 2);
+        simple("(if (if (if x y nil) t nil) 1 2)", "(if (if x y nil) 1 2)", 1 + 1 + 4 + 2 + 2);
     }
 
     private static void negations() {
@@ -323,6 +338,12 @@ public final class RewriteBoundsTest {
         t.due("(simplify (s (+ y 1)))", 0, "(cons (+ y 1) 3)", 4 + 4 + 5);
         t.due("(simplify (s (cons y 1)))", 0, "'(1 . 3)", 4 + 4 + 5 + 4);
         t.due("(simplify (s (cons y z)))", 0, "(s z)", 4 + 4 + 5 + 2);
+        // For its TRUTH: (if (natp x) 5 7) is t then, though no constant for its VALUE.
+        t.done("(defun v (x) (if (if (natp x) 5 7) (cons x 3) (v (cdr x))) (height x))");
+        t.due("(simplify (v y))", 0, "(cons y 3)", 2 + 5 + 3);
+        // What Q opens has parameters of its own.
+        t.done("(defun isp (z) (consp z))").done("(defun o (x) (if (isp x) (o (cdr x)) (cons x 3)) (height x))");
+        t.due("(simplify (o (+ y 1)))", 0, "(cons (+ y 1) 3)", 4 + 4 + 4 + 5);
         // Any constant that isn't nil chooses B.
         t.done("(defun n (x) (if (if (consp x) 7 nil) (n (cdr x)) 3) (height x))");
         t.due("(simplify (n (cons y z)))", 0, "(n z)", 4 + 6 + 5 + 5);

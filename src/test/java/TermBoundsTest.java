@@ -439,6 +439,11 @@ public final class TermBoundsTest {
         t.unworked("(eval (implies nil (+ " + GREATEST + " 1)))", 3, 2);
         t.unworked("(eval (cons (car 1) (cons (+ " + GREATEST + " 1) (car 2))))", 3, 4);
         t.done("(defun two (x y) y)").due("(eval (two (car 1) (two 1 2)))", 0, "2", 3);
+        Tester.sentence(THREE, "then the value, of a DEFINED function that of its body, its parameters having these");
+        // Each call's parameters are its own again behind those of a call within it.
+        t.done("(defun in (p q) (cons (two q 2) (cons p (cons (two p q) (cons q p)))))");
+        t.due("(eval (in 7 (in 8 9)))", 0, "(2 7 (2 8 9 9 . 8) (2 8 9 9 . 8) . 7)", 2 * 7);
+        t.due("(eval (cons (in 1 2) (two 3 4)))", 0, "((2 1 2 2 . 1) . 4)", 1 + 7 + 1);
     }
 
     private static void calls() {
