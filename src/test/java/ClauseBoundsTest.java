@@ -42,7 +42,8 @@ public final class ClauseBoundsTest {
     }
 
     private static void cameFirst() {
-        Tester.sentence(WHERE, "CLAUSES are rows of different terms, the LITERALS (one that would come twice stands where it came first)");
+        Tester.sentence(WHERE, "CLAUSES are rows of different terms, the LITERALS (one that would come twice stands "
+                + "where it came first)");
         Tester t = prepared();
         t.due("(prove (equal 1 2) (use b (x y)) (use b (x z)) (use b (x y)))", 6, "(((not (q y)) (not (q z))))");
         t.due("(check n t (weak (x y x (not x) z y) (taut x)))", 7, "(x (not x) y z)");
@@ -132,7 +133,8 @@ public final class ClauseBoundsTest {
     private static void sizesOfTwo() {
         Tester.sentence(WHERE, THIRTY);
         Tester t = new Tester();
-        t.done("(defun q (x y) (if (consp y) (q x (cdr y)) t) (height y))").done("(defthm b (q x y) (induct (q x y)))").done("(off b)");
+        t.done("(defun q (x y) (if (consp y) (q x (cdr y)) t) (height y))").done("(defthm b (q x y) (induct (q x y)))");
+        t.done("(off b)");
         // (not (q S y)) with S of 97 has 100, and stays, behind 2 + 97 + 1 + 2 STEPS.
         StringBuilder three = new StringBuilder();
         for (String v : new String[] {"u", "v", "w"}) {
@@ -159,7 +161,8 @@ public final class ClauseBoundsTest {
     private static void sizesBehindARound() {
         Tester.sentence(WHERE, THIRTY);
         Tester t = new Tester();
-        t.done("(defun q (x y) (if (consp y) (q x (cdr y)) t) (height y))").done("(defthm b (q x y) (induct (q x y)))").done("(off b)");
+        t.done("(defun q (x y) (if (consp y) (q x (cdr y)) t) (height y))").done("(defthm b (q x y) (induct (q x y)))");
+        t.done("(off b)");
         t.done("(defun w (x) (cons x x))");
         // (not (q (w S) y)) with S of 48 has 52, and comes out with 1 + 1 + 97 + 1 = 100.
         StringBuilder three = new StringBuilder();
@@ -221,7 +224,8 @@ public final class ClauseBoundsTest {
     private static void provedAtOnce() {
         Tester.sentence(WHERE, "if it has a constant that isn't nil, or X and NOT X both: it is PROVED");
         Tester t = prepared();
-        t.due("(prove t)", 0, "", 0).due("(prove 0)", 0, "", 0).due("(prove '(nil))", 0, "", 0).due("(prove nil)", 6, "(nil)", 1);
+        t.due("(prove t)", 0, "", 0).due("(prove 0)", 0, "", 0).due("(prove '(nil))", 0, "", 0);
+        t.due("(prove nil)", 6, "(nil)", 1);
         t.due("(prove 5 (use a))", 0, "", 0).due("(prove nil (use b))", 6, "(((not (q x))))");
         t.due("(prove (if x t t) (use a))", 0, "", 0).due("(prove (not (if x t t)) (use a))", 6, "(nil)", 5);
         t.due("(prove (q z) (use b (x z)))", 0, "", 0).due("(prove (q y) (use b (x z)))", 6, "(((not (q z)) (q y)))");
@@ -293,7 +297,8 @@ public final class ClauseBoundsTest {
     }
 
     private static void becomesTwo() {
-        Tester.sentence(WHERE, "(if A B C): the clause becomes two: with NOT A and B, in this order, at its place, and with A and C. "
+        Tester.sentence(WHERE, "(if A B C): the clause becomes two: with NOT A and B, in this order, at its place, "
+                + "and with A and C. "
                 + "(not (if A B C)): two: with NOT A and NOT B, and with A and NOT C");
         Tester t = new Tester();
         t.due("(prove (if x y z))", 6, "(((not x) y) (x z))", 4 + 3 + 2);
@@ -329,7 +334,8 @@ public final class ClauseBoundsTest {
     }
 
     private static void changes() {
-        Tester.sentence(WHERE, "Behind a ROUND that changed something (that a literal went is a change, also of one that was nil) "
+        Tester.sentence(WHERE, "Behind a ROUND that changed something (that a literal went is a change, also of one "
+                + "that was nil) "
                 + "the clause is taken up again; behind another one it is LEFT");
         Tester t = prepared();
         t.done("(defthm true t)");

@@ -6,6 +6,7 @@ public final class CommandBoundsTest {
     public static void main(String[] args) {
         oneOfThese();
         names();
+        notAsTold();
         orderOfDefun();
         orderOfTheorems();
         orderOfHints();
@@ -25,6 +26,7 @@ public final class CommandBoundsTest {
         useHint();
         offHint();
         clausesOfHints();
+        takenWithItsRule();
         hypotheses();
         rules();
         noRules();
@@ -48,7 +50,8 @@ public final class CommandBoundsTest {
                 t.due(order.substring(0, order.indexOf(' ')) + ")", 2, "", 0);
             }
         }
-        t.due("(defthm b)", 2, "").due("(defun f)", 2, "").due("(defun f ())", 2, "").due("(check c)", 2, "").due("(simplify)", 2, "");
+        t.due("(defthm b)", 2, "").due("(defun f)", 2, "").due("(defun f ())", 2, "").due("(check c)", 2, "");
+        t.due("(simplify)", 2, "");
         t.due("(undo 1)", 2, "").due("(undo nil)", 2, "").due("(eval 1 2)", 2, "").due("(simplify 1 2)", 2, "");
         t.due("(on a a)", 2, "").due("(off a a)", 2, "").due("(check c t (same 1) 1)", 2, "").due("(check c t)", 2, "");
         t.due("eval", 2, "").due("5", 2, "").due("()", 2, "").due("'(eval 1)", 2, "").due("((eval 1))", 2, "");
@@ -65,7 +68,25 @@ public final class CommandBoundsTest {
             t.due("(prove t (use " + none + "))", 2, "").due("(prove t (off " + none + "))", 2, "");
             t.due("(prove t (induct (" + none + " x)))", 2, "");
         }
-        t.done("(defun abcdefghijk (x) x)").done("(defthm abcdefghijk t)").done("(defun 1- (x) x)").done("(defthm ++ t (use abcdefghijk))");
+        t.done("(defun abcdefghijk (x) x)").done("(defthm abcdefghijk t)").done("(defun 1- (x) x)");
+        t.done("(defthm ++ t (use abcdefghijk))");
+    }
+
+    private static void notAsTold() {
+        Tester.sentence(WHERE, "2 it is none of these, or something in it is not as told "
+                + "(a term that calls what is no function, or has a SIZE above 120, is none)");
+        Tester t = new Tester();
+        t.done("(defthm a (equal x x))");
+        for (String none : new String[] {"(no 1)", "(car)", "(car 1 1)", "(car . 1)", "(quote)", "(5 1)", Texts.sized(121, "1")}) {
+            for (String order : new String[] {"(eval @)", "(simplify @)", "(prove @)", "(defthm b @)", "(check b @ (same 1))",
+                "(defun f () @)", "(defun f (x) (if (consp x) (f (cdr x)) @) (height x))", "(defun f (x) (if (consp x) (f (cdr x)) 1) @)",
+                "(prove t (use a (x @)))", "(defthm b t (use a (x @)))", "(eval (car @))", "(simplify (if x 1 @))"}) {
+                t.due(order.replace("@", none), 2, "", 0);
+            }
+        }
+        Tester.sentence(WHERE, "(simplify T): OUT T REWRITTEN for its VALUE in an empty CONTEXT");
+        t.due("(simplify (if x 5 nil))", 0, "(if x 5 nil)", 4).due("(simplify x)", 0, "x", 1).due("(simplify 5)", 0, "5", 1);
+        t.due("(prove (if x y 5))", 6, "(((not x) y))").due("(simplify (car x))", 0, "(car x)", 2);
     }
 
     private static void orderOfDefun() {
@@ -93,13 +114,15 @@ public final class CommandBoundsTest {
             t.due("(defthm new (no)" + rest + ")", 2, "").due("(defthm n0 t" + rest + ")", 3, "");
             t.due("(defthm new t" + rest + ")", 8, "").due("(defthm new nil" + rest + ")", 8, "", 0);
         }
-        t.due("(defthm new t (use no))", 3, "").due("(defthm new t (off no))", 3, "").due("(defthm new t (induct (no x)))", 3, "");
+        t.due("(defthm new t (use no))", 3, "").due("(defthm new t (off no))", 3, "");
+        t.due("(defthm new t (induct (no x)))", 3, "");
         t.due("(defthm n0 t (hint))", 2, "").due("(defthm new t (use no) (off))", 2, "");
         t.due("(check new (no) (no))", 2, "").due("(check n0 t (no))", 3, "", 0).due("(check new t (no))", 8, "", 0);
     }
 
     private static void orderOfHints() {
-        Tester.sentence(WHERE, "3 a name that is taken, or one that there is not; 8 there is no room (asked in this order, 1, 2, 3, 8)");
+        Tester.sentence(WHERE, "3 a name that is taken, or one that there is not; 8 there is no room (asked in this "
+                + "order, 1, 2, 3, 8)");
         Tester t = new Tester();
         t.done(LEN).done("(defthm a (equal x x))");
         // Whatever stands first, what is not as told is asked ahead of names.
@@ -108,7 +131,8 @@ public final class CommandBoundsTest {
             "(induct (len x y))", "(induct (car x))", "(hint)", "hint", "(use no (x 1) (x 2))", "(use no (5 1))",
             "(use no (x (no)))", "(induct (no x x))", "(induct (no 5))", "(off no 5)"};
         for (String three : threes) {
-            t.due("(prove t " + three + ")", 3, "").due("(defthm b t " + three + ")", 3, "").due("(defthm a t " + three + ")", 3, "");
+            t.due("(prove t " + three + ")", 3, "").due("(defthm b t " + three + ")", 3, "");
+            t.due("(defthm a t " + three + ")", 3, "");
             for (String two : twos) {
                 t.due("(prove t " + two + ")", 2, "").due("(defthm a t " + two + ")", 2, "");
                 if (!two.substring(1, 3).equals(three.substring(1, 3)) || three.startsWith("(use")) {
@@ -119,7 +143,8 @@ public final class CommandBoundsTest {
     }
 
     private static void workComesLast() {
-        Tester.sentence(WHERE, "4 a FAULT OF WORK; 5 a measure that isn't proved to fall; 6 not proved; 7 a PROOF that is wrong");
+        Tester.sentence(WHERE, "4 a FAULT OF WORK; 5 a measure that isn't proved to fall; 6 not proved; 7 a PROOF "
+                + "that is wrong");
         Tester t = new Tester();
         // The first clause is LEFT; then there is no FUEL for the second one, and nothing is LEFT.
         t.due("(prove (if x y z))", 6, "(((not x) y) (x z))", 9);
@@ -176,16 +201,19 @@ public final class CommandBoundsTest {
             "(a b . c)"}) {
             t.due("(defun f " + none + " 1)", 2, "");
         }
-        t.done("(defun f nil 1)").done("(undo)").done("(defun f (f) f)").done("(undo)").done("(defun f (if cons + t1 n1 quote) quote)");
+        t.done("(defun f nil 1)").done("(undo)").done("(defun f (f) f)").done("(undo)");
+        t.done("(defun f (if cons + t1 n1 quote) quote)");
         t.due("(eval (f 1 2 3 4 5 6))", 0, "6");
         Tester.sentence(WHERE, "f being a function of so many terms in it");
-        t.due("(defun g (x y) (g x) x)", 2, "").due("(defun g (x y) (g x x x) x)", 2, "").due("(defun g (x y) (g x x) 0)", 5, "(nil)");
+        t.due("(defun g (x y) (g x) x)", 2, "").due("(defun g (x y) (g x x x) x)", 2, "");
+        t.due("(defun g (x y) (g x x) 0)", 5, "(nil)");
         // The number of terms that a function of that name has already doesn't count.
         t.due("(defun f (x) (f x) x)", 3, "").due("(defun f (x) (f x x x x x x) x)", 2, "");
     }
 
     private static void variablesOfBodies() {
-        Tester.sentence(WHERE, "T with these variables alone, f being a function of so many terms in it; M with these variables alone, without f");
+        Tester.sentence(WHERE, "T with these variables alone, f being a function of so many terms in it; M with these "
+                + "variables alone, without f");
         Tester t = new Tester();
         t.done("(defun f (x) 'y)").done("(undo)").due("(defun f (x) y)", 2, "").due("(defun f () x)", 2, "");
         t.due("(defun f (x) (if (consp x) (f (cdr x)) y) (height x))", 2, "");
@@ -227,12 +255,14 @@ public final class CommandBoundsTest {
         t.due("(defun f (x) (if x 1 (if (f x) 1 2)) x)", 2, "").due("(defun f (x) (f (f x)) x)", 2, "");
         t.due("(defun f (x) (if x (f (car (f x))) 1) x)", 2, "").due("(defun f (x) (cons 1 (f (if x (f x) 1))) x)", 2, "");
         // The first term of an if in an END is no RULER.
-        t.due("(defun f (x) (cons 1 (if (f x) 1 2)) 0)", 5, "(nil)").due("(defun f (x) (if (consp x) (not (if (f (cdr x)) 1 2)) 2) (height x))", 0, "");
+        t.due("(defun f (x) (cons 1 (if (f x) 1 2)) 0)", 5, "(nil)");
+        t.due("(defun f (x) (if (consp x) (not (if (f (cdr x)) 1 2)) 2) (height x))", 0, "");
         t.due("(defun g (x) (if (f x) (g (cdr x)) 1) 0)", 5, "(((not (f x))))");
     }
 
     private static void pathsAndClauses() {
-        Tester.sentence(WHERE, "For each PATH, for each call (f A ..) in its END, from the left, a clause: NOT each RULER, and (< M2 M)");
+        Tester.sentence(WHERE, "For each PATH, for each call (f A ..) in its END, from the left, a clause: NOT each "
+                + "RULER, and (< M2 M)");
         Tester t = new Tester();
         // In the third clause y is nil, so both sides are '(nil); in the fourth one x is.
         t.due("(defun f (x y) (if x (if y (cons (f 1 x) (f 2 x)) (f 3 y)) (f 4 x)) (cons y y))", 5,
@@ -241,12 +271,22 @@ public final class CommandBoundsTest {
         // The calls in one END from the left, an outer if's third term behind its second.
         t.due("(defun f (x y) (if x (cons (f y 1) (cons (f y 2) (f y 3))) (f y 4)) y)", 5,
                 "(((not x) (< 1 y)) ((not x) (< 2 y)) ((not x) (< 3 y)) (x (< 4 y)))");
+        Tester.sentence(WHERE, "The PATHS of T: from T through the second and third terms of calls of if to all terms "
+                + "that are no such call, "
+                + "its ENDS, from the left; the RULERS of one are the first terms of these calls (where it goes through the second one) "
+                + "or NOT them, from the outermost on");
+        // The first term's own calls of if are on no PATH, nor are those within an END.
+        t.due("(defun f (x y) (if (if x y 1) (f x y) 0) 0)", 5, "(((not x) (not y)) (x))");
+        t.due("(defun f (x y) (if x (cons 1 (if y (f x y) 2)) 0) 0)", 5, "(((not x)))");
+        // One END and no RULER: T is no call of if.
+        t.due("(defun f (x) (not (f x)) 0)", 5, "(nil)");
         // RULERS from the outermost on.
         t.due("(defun f (x y z) (if x (if y 0 (if z (f x y z) 0)) 0) 0)", 5, "(((not x) y (not z)))");
     }
 
     private static void notFalling() {
-        Tester.sentence(WHERE, "If TO PROVE these leaves none, f is DEFINED; else 5, OUT the list of the clauses LEFT, each a list");
+        Tester.sentence(WHERE, "If TO PROVE these leaves none, f is DEFINED; else 5, OUT the list of the clauses "
+                + "LEFT, each a list");
         Tester t = new Tester();
         t.due("(defun f (x) (if (consp x) (f (cdr x)) 1) (height x))", 0, "");
         Tester.same("functions", t.house.count(0), 1);
@@ -287,7 +327,8 @@ public final class CommandBoundsTest {
         Tester t = new Tester();
         t.done(LEN).done("(defun f (x) x)").done("(defun two (x y) (if (consp x) (two (cdr x) y) y) (height x))");
         t.done("(defthm thm t)");
-        t.due("(prove t (induct (len x)))", 0, "").due("(prove t (induct (two x y)))", 0, "").due("(prove t (induct (two if quote)))", 0, "");
+        t.due("(prove t (induct (len x)))", 0, "").due("(prove t (induct (two x y)))", 0, "");
+        t.due("(prove t (induct (two if quote)))", 0, "");
         for (String two : new String[] {"(len)", "(len x y)", "(two x)", "(two x y z)", "(two x x)", "(two x 5)", "(two x nil)",
             "(two x t)", "(two x 'y)", "(two x (car y))", "(f x)", "(car x)", "(if x y z)", "(quote x)", "(nil x)", "(5 x)", "((f) x)",
             "len", "()", "5", "(len . x)", "(no x x)", "(no 5)", "(no nil)"}) {
@@ -296,10 +337,12 @@ public final class CommandBoundsTest {
         for (String three : new String[] {"(no x)", "(no)", "(no a b c d e f g h)", "(thm x)", "(defun x)"}) {
             t.due("(prove t (induct " + three + "))", 3, "");
         }
-        t.due("(prove t (induct))", 2, "").due("(prove t (induct (len x) (len x)))", 2, "").due("(prove t (induct . (len x)))", 2, "");
+        t.due("(prove t (induct))", 2, "").due("(prove t (induct (len x) (len x)))", 2, "");
+        t.due("(prove t (induct . (len x)))", 2, "");
         Tester.sentence(WHERE, "induct and off at most once");
         t.due("(prove t (induct (len x)) (induct (len x)))", 2, "").due("(prove t (off thm) (off thm))", 2, "");
-        t.due("(prove t (induct (len x)) (off thm) (induct (len y)))", 2, "").due("(prove t (off thm) (use thm) (off thm))", 2, "");
+        t.due("(prove t (induct (len x)) (off thm) (induct (len y)))", 2, "");
+        t.due("(prove t (off thm) (use thm) (off thm))", 2, "");
         t.due("(prove t (use thm) (off thm) (use thm) (induct (len x)) (use thm))", 0, "");
     }
 
@@ -307,7 +350,8 @@ public final class CommandBoundsTest {
         Tester.sentence(WHERE, "(use n2 (x T) ..), n2 a theorem (else 3), x different variables of its F, perhaps none");
         Tester t = new Tester();
         t.done("(defthm a (equal (cons x y) (cons x y)))").done("(defthm b t)").done("(defun f (x) x)");
-        t.due("(prove t (use a))", 0, "").due("(prove t (use a (x 1)))", 0, "").due("(prove t (use a (y 1) (x (car x))))", 0, "");
+        t.due("(prove t (use a))", 0, "").due("(prove t (use a (x 1)))", 0, "");
+        t.due("(prove t (use a (y 1) (x (car x))))", 0, "");
         t.due("(prove t (use b))", 0, "").due("(prove t (use a) (use a) (use b))", 0, "");
         for (String two : new String[] {"(use)", "(use a x)", "(use a (x))", "(use a (x 1 2))", "(use a (x . 1))", "(use a (z 1))",
             "(use a (x 1) (x 1))", "(use a (x 1) (y 2) (x 3))", "(use a (x (no)))", "(use a ((x) 1))", "(use a (nil 1))",
@@ -324,9 +368,12 @@ public final class CommandBoundsTest {
         t.done("(defun f (x) (if (consp x) (f (cdr x)) 7) (height x))").done("(defthm a (equal (f x) 7) (induct (f x)))");
         t.done("(defthm b t)");
         t.due("(prove (equal (f x) 7))", 0, "", 6).due("(prove (equal (f x) 7) (off a))", 6, "(((equal (f x) 7)))");
-        t.due("(prove (equal (f x) 7) (off b))", 0, "", 6).due("(prove (equal (f x) 7) (off b a a b))", 6, "(((equal (f x) 7)))");
-        t.due("(prove t (off))", 2, "").due("(prove t (off 5))", 2, "").due("(prove t (off a 5))", 2, "").due("(prove t (off (a)))", 2, "");
-        t.due("(prove t (off a . b))", 2, "").due("(prove t (off no))", 3, "").due("(prove t (off a no))", 3, "").due("(prove t (off f))", 3, "");
+        t.due("(prove (equal (f x) 7) (off b))", 0, "", 6);
+        t.due("(prove (equal (f x) 7) (off b a a b))", 6, "(((equal (f x) 7)))");
+        t.due("(prove t (off))", 2, "").due("(prove t (off 5))", 2, "").due("(prove t (off a 5))", 2, "");
+        t.due("(prove t (off (a)))", 2, "");
+        t.due("(prove t (off a . b))", 2, "").due("(prove t (off no))", 3, "").due("(prove t (off a no))", 3, "");
+        t.due("(prove t (off f))", 3, "");
         // It holds for the one command alone, also one that isn't done.
         t.due("(prove (equal (f x) 7))", 0, "", 6);
         t.done("(off a)").due("(prove (equal (f x) 7) (off b))", 6, "(((equal (f x) 7)))");
@@ -334,7 +381,8 @@ public final class CommandBoundsTest {
     }
 
     private static void clausesOfHints() {
-        Tester.sentence(WHERE, "Ahead of the literals of each, for each use, the first one first, NOT the theorem's F with these T for these x");
+        Tester.sentence(WHERE, "Ahead of the literals of each, for each use, the first one first, NOT the theorem's F "
+                + "with these T for these x");
         Tester t = new Tester();
         t.done("(defun q (x) (if (consp x) (q (cdr x)) t) (height x))").done("(defthm a (q x) (induct (q x)))").done("(off a)");
         t.due("(prove r (use a) (use a (x y)) (use a (x (car x))))", 6, "(((not (q x)) (not (q y)) (not (q (car x))) r))");
@@ -342,10 +390,29 @@ public final class CommandBoundsTest {
         t.done("(defun tr (x) (if (consp x) (cons (tr (car x)) (tr (cdr x))) x) (height x))");
         t.due("(prove (natp v) (use a) (induct (tr v)))", 6,
                 "(((not (q x)) (not (consp v)) (not (natp (car v))) (not (natp (cdr v))) (natp v)) ((not (q x)) (consp v) (natp v)))");
-        // The v stand for f's parameters; F2 is F with the call's terms for the v, all at once.
+        Tester.sentence(WHERE, "the v stand for f's parameters, and F2 is F with the call's terms (with the v in "
+                + "them) for the v; "
+                + "without induct F alone");
         t.done("(defun sw (x y) (if (consp x) (sw (cdr x) x) y) (height x))");
         t.due("(prove (equal b a) (induct (sw a b)))", 6,
                 "(((not (consp a)) (not (equal a (cdr a))) (equal b a)) ((consp a) (equal b a)))");
+    }
+
+    private static void takenWithItsRule() {
+        Tester.sentence(WHERE, "If TO PROVE these (the RULES named by off being off) leaves none, the theorem is "
+                + "taken, with its RULE, ON; "
+                + "else 6, OUT as of defun");
+        Tester t = new Tester();
+        t.done("(defun c (x) (if (consp x) (c (cdr x)) 3) (height x))");
+        t.due("(defthm a (equal (c x) 3))", 6, "(((equal (c x) 3)))");
+        Tester.same("not taken", t.house.count(1) * 100 + t.house.count(2) * 10 + t.house.taken(1), 0);
+        t.done("(defthm a (equal (c x) 3) (induct (c x)))");
+        Tester.same("taken", t.house.count(1) * 1000 + t.house.count(2) * 100 + t.house.count(3) * 10 + t.house.taken(1), 1112);
+        t.due("(defthm b (equal (c y) 3) (off a))", 6, "(((equal (c y) 3)))").due("(defthm b (equal (c y) 3))", 0, "", 6);
+        // A new theorem's own RULE has no part in its proof.
+        t.done("(undo)").done("(undo)").due("(defthm a (equal (c x) 3))", 6, "(((equal (c x) 3)))");
+        t.due("(defthm a (if x y z))", 6, "(((not x) y) (x z))");
+        Tester.same("LEFT", t.house.count(4), 2);
     }
 
     private static void rule(Tester t, String formula, boolean has) {
@@ -356,11 +423,13 @@ public final class CommandBoundsTest {
     }
 
     private static void hypotheses() {
-        Tester.sentence(WHERE, "(implies H C): H is a HYPOTHESIS (if it is (if A B nil): A, then B, looked at likewise), and C is looked at");
+        Tester.sentence(WHERE, "(implies H C): H is a HYPOTHESIS (if it is (if A B nil): A, then B, looked at "
+                + "likewise), and C is looked at");
         Tester t = new Tester();
         t.done("(defun c (x) 3)");
         // (if A B nil) is two HYPOTHESES, (if A B t) one: seen by what is asked of (c v).
-        t.done("(defthm n (implies (if (natp x) (consp x) nil) (equal (c x) 3)))").due("(simplify (c v))", 0, "3", 2 + 1 + 2 + 1);
+        t.done("(defthm n (implies (if (natp x) (consp x) nil) (equal (c x) 3)))");
+        t.due("(simplify (c v))", 0, "3", 2 + 1 + 2 + 1);
         t.done("(undo)").done("(defthm n (implies (if (natp x) (consp x) t) (equal (c x) 3)))");
         t.due("(simplify (c v))", 0, "3", 2 + 1 + 6 + 1);
         t.done("(undo)").done("(defthm n (implies (if (if t (natp x) nil) (if 5 (consp x) nil) nil) (equal (c x) 3)))");
@@ -377,17 +446,22 @@ public final class CommandBoundsTest {
     }
 
     private static void rules() {
-        Tester.sentence(WHERE, "(equal L R): left L, right R. (not L): L and nil. Another one: L and t, for the TRUTH alone unless L is BOOLEAN");
+        Tester.sentence(WHERE, "(equal L R): left L, right R. (not L): L and nil. Another one: L and t, for the TRUTH "
+                + "alone unless L is BOOLEAN");
         Tester t = new Tester();
-        t.done("(defun c (x) (if (consp x) (c (cdr x)) 3) (height x))").done("(defthm z (equal (c x) 3) (induct (c x)))").done("(off z)");
+        t.done("(defun c (x) (if (consp x) (c (cdr x)) 3) (height x))").done("(defthm z (equal (c x) 3) (induct (c x)))");
+        t.done("(off z)");
         rule(t, "(equal (c x) (c x))", false);
-        t.done("(defthm n (not (equal (c x) 4)) (use z))").due("(simplify (equal (c v) 4))", 0, "nil", 1 + 4 + 1 + 1 + 1).done("(undo)");
-        t.done("(defthm n (c x) (use z))").due("(simplify (c v))", 0, "(c v)", 4).due("(simplify (if (c v) 1 2))", 0, "1", 1 + 2 + 1 + 1 + 1);
+        t.done("(defthm n (not (equal (c x) 4)) (use z))").due("(simplify (equal (c v) 4))", 0, "nil", 1 + 4 + 1 + 1 + 1);
+        t.done("(undo)");
+        t.done("(defthm n (c x) (use z))").due("(simplify (c v))", 0, "(c v)", 4);
+        t.due("(simplify (if (c v) 1 2))", 0, "1", 1 + 2 + 1 + 1 + 1);
         t.done("(undo)").done("(defthm n (natp (c x)) (use z))").due("(simplify (natp (c v)))", 0, "t", 1 + 4 + 1 + 1);
     }
 
     private static void noRules() {
-        Tester.sentence(WHERE, "There is none if L is no call, or one of if, not, implies, or a variable of R or of a HYPOTHESIS is not in L, or R is L");
+        Tester.sentence(WHERE, "There is none if L is no call, or one of if, not, implies, or a variable of R or of a "
+                + "HYPOTHESIS is not in L, or R is L");
         Tester t = new Tester();
         t.done("(defun c (x) 3)").done("(defun p (x y) 3)").done("(defun n (x) nil)");
         rule(t, "(equal (c x) 3)", true);
@@ -422,7 +496,8 @@ public final class CommandBoundsTest {
         t.done("(defun c (x) 3)").done("(defthm a (equal (c x) 3))").done("(defthm b (equal x x))");
         t.done("(on a)").done("(off a)").done("(off a)").done("(on a)").done("(on a)");
         Tester.same("ON", t.house.count(3), 1);
-        t.due("(on b)", 3, "").due("(off b)", 3, "").due("(on no)", 3, "").due("(off no)", 3, "").due("(on c)", 3, "").due("(off c)", 3, "");
+        t.due("(on b)", 3, "").due("(off b)", 3, "").due("(on no)", 3, "").due("(off no)", 3, "").due("(on c)", 3, "");
+        t.due("(off c)", 3, "");
         Tester.same("RULES", t.house.count(2), 1);
         t.done("(check d (equal (c x) 3) (def c))").done("(off d)");
         Tester.same("ON", t.house.count(3), 1);
@@ -434,7 +509,8 @@ public final class CommandBoundsTest {
         Tester t = new Tester();
         t.due("(undo)", 3, "", 0).done("(prove t)").due("(undo)", 3, "", 0);
         t.done("(defun c (x) 3)").done("(defthm a (equal (c x) 3))").done("(check b (equal (c x) 3) (def c))");
-        t.done("(off a)").due("(eval (c 1))", 0, "3").done("(prove t)").due("(defthm d nil)", 6, "(nil)").due("(defun c (x) x)", 3, "");
+        t.done("(off a)").due("(eval (c 1))", 0, "3").done("(prove t)").due("(defthm d nil)", 6, "(nil)");
+        t.due("(defun c (x) x)", 3, "");
         // Neither on, off, eval nor what isn't done is taken back.
         t.done("(undo)");
         Tester.same("theorems", t.house.count(1), 1);
@@ -451,9 +527,11 @@ public final class CommandBoundsTest {
         Tester.sentence(WHERE, "the PROOF P must have a clause without other literals than F; else 7, OUT that clause, a list");
         Tester t = new Tester();
         t.due("(check a (equal x x) (same x))", 0, "", 1).due("(check b (equal x x) (weak ((equal x x)) (same x)))", 0, "", 2);
-        t.due("(check c (equal x x) (weak (y) (same x)))", 7, "((equal x x) y)", 2).due("(check c y (same x))", 7, "((equal x x))", 1);
+        t.due("(check c (equal x x) (weak (y) (same x)))", 7, "((equal x x) y)", 2);
+        t.due("(check c y (same x))", 7, "((equal x x))", 1);
         t.due("(check c (equal y y) (same x))", 7, "((equal x x))", 1).due("(check c (equal '5 5) (same 5))", 0, "", 1);
         Tester.same("theorems", t.house.count(1), 3);
-        t.due("(check d (equal x x) (same x) (same x))", 2, "").due("(check d (equal x x))", 2, "").due("(check d (equal x x) no)", 7, "no", 1);
+        t.due("(check d (equal x x) (same x) (same x))", 2, "").due("(check d (equal x x))", 2, "");
+        t.due("(check d (equal x x) no)", 7, "no", 1);
     }
 }

@@ -187,7 +187,8 @@ public final class PromiseBoundsTest {
     }
 
     private static void faultOfReading() {
-        Tester.sentence("Promise 6", "Of the latest run(): the FAULT of READING (what 0), its place (1), the FAULT OF WORK (2), "
+        Tester.sentence("Promise 6", "Of the latest run(): the FAULT of READING (what 0), its place (1), the FAULT OF "
+                + "WORK (2), "
                 + "each 0 without one (the place NONE), or before. NONE for another what");
         Tester t = new Tester();
         same("before", t.house.fault(0) + t.house.fault(2), 0);
@@ -213,7 +214,8 @@ public final class PromiseBoundsTest {
     }
 
     private static void faultOfWork() {
-        Tester.sentence("Promise 6", "the FAULT OF WORK (2), each 0 without one");
+        Tester.sentence("Promise 6", "the FAULT OF WORK (2), each 0 without one .. 1 OUT OF FUEL (a STEP more than FUEL), "
+                + "2 TOO DEEP, 3 TOO GREAT, 4 TOO BIG");
         Tester t = new Tester();
         t.done("(defun w (x) (cons x x))").done("(defun g (x) " + Texts.chain("car", 37, "x") + ")");
         String[] orders = {"(eval (not (not 1)))", "(simplify " + Texts.chain("car", 22, "(g x)") + ")",
@@ -230,12 +232,16 @@ public final class PromiseBoundsTest {
     }
 
     private static void steps() {
-        Tester.sentence("Promise 7", "How many STEPS the latest run() made (with OUT OF FUEL its FUEL; 0 with the ANSWERS 1, 2, 3, 8)");
+        Tester.sentence("Promise 7", "How many STEPS the latest run() made (with OUT OF FUEL its FUEL; 0 with the "
+                + "ANSWERS 1, 2, 3, 8)");
         Tester t = new Tester();
         same("before", t.house.steps(), 0);
-        t.due("(eval (not 1))", 0, "nil", 1).due("(eval (", 1, "", 0).due("(eval (not 1))", 0, "nil", 1).due("(evil)", 2, "", 0);
-        t.due("(eval (not 1))", 0, "nil", 1).due("(undo)", 3, "", 0).due("(eval (not 1))", 0, "nil", 1).due("(eval 1)", 0, "1", 0);
-        t.due("(prove x)", 6, "((x))", 1).due("(defun f (x) (f x) 0)", 5, "(nil)", 3).due("(check a t (same x))", 7, "((equal x x))", 1);
+        t.due("(eval (not 1))", 0, "nil", 1).due("(eval (", 1, "", 0).due("(eval (not 1))", 0, "nil", 1);
+        t.due("(evil)", 2, "", 0);
+        t.due("(eval (not 1))", 0, "nil", 1).due("(undo)", 3, "", 0).due("(eval (not 1))", 0, "nil", 1);
+        t.due("(eval 1)", 0, "1", 0);
+        t.due("(prove x)", 6, "((x))", 1).due("(defun f (x) (f x) 0)", 5, "(nil)", 3);
+        t.due("(check a t (same x))", 7, "((equal x x))", 1);
         for (int k = 0; k < 40; k++) {
             t.done("(defun f" + k + " (x) x)");
         }
@@ -252,13 +258,15 @@ public final class PromiseBoundsTest {
     }
 
     private static void counts() {
-        Tester.sentence("Promise 8", "How many functions are DEFINED (what 0), theorems (1), RULES (2), RULES that are ON (3), .. NONE for another what");
+        Tester.sentence("Promise 8", "How many functions are DEFINED (what 0), theorems (1), RULES (2), RULES that "
+                + "are ON (3), .. NONE for another what");
         Tester t = new Tester();
         for (int what : OUTSIDE) {
             same("count " + what, t.house.count(what), -1);
         }
         same("count 5", t.house.count(5), -1);
-        t.done("(defun c (x) 3)").done("(defthm a (equal (c x) 3))").done("(defthm b (equal x x))").done("(check d (equal (c x) 3) (def c))");
+        t.done("(defun c (x) 3)").done("(defthm a (equal (c x) 3))").done("(defthm b (equal x x))");
+        t.done("(check d (equal (c x) 3) (def c))");
         same("counts", t.house.count(0) * 1000 + t.house.count(1) * 100 + t.house.count(2) * 10 + t.house.count(3), 1322);
         t.done("(off a)");
         same("counts", t.house.count(0) * 1000 + t.house.count(1) * 100 + t.house.count(2) * 10 + t.house.count(3), 1321);
@@ -314,7 +322,8 @@ public final class PromiseBoundsTest {
     }
 
     private static void taken() {
-        Tester.sentence("Promise 11", "What was taken as the k-th (from 0 on; function or theorem, those that are gone left out): "
+        Tester.sentence("Promise 11", "What was taken as the k-th (from 0 on; function or theorem, those that are "
+                + "gone left out): "
                 + "1 a function, 2 a theorem by defthm, 3 one by check; 0 when there is none");
         Tester t = new Tester();
         t.done("(check a (equal 1 1) (same 1))").done("(defun f (x) x)").done("(defthm b t)").done("(defun g (x) x)");
@@ -333,7 +342,8 @@ public final class PromiseBoundsTest {
     }
 
     private static void tell() {
-        Tester.sentence("Promise 12", "told as the list (defun f (x ..) T) or, when it has calls of itself, (defun f (x ..) T M), or (theorem n F), "
+        Tester.sentence("Promise 12", "told as the list (defun f (x ..) T) or, when it has calls of itself, (defun f "
+                + "(x ..) T M), or (theorem n F), "
                 + "its terms with their constants as said: how many characters OUT has");
         Tester t = new Tester();
         String[] orders = {"(defun f (x y) (cons '5 'a))", "(defun k () 'nil)", LEN.replace("1", "'1"), "(defthm a (equal 't t))",
@@ -396,7 +406,8 @@ public final class PromiseBoundsTest {
     }
 
     private static void recheckFalse() {
-        Tester.sentence("Promise 13", "False when it had no TO PROVE that left nothing (so behind a defun without calls of itself, or check)");
+        Tester.sentence("Promise 13", "False when it had no TO PROVE that left nothing (so behind a defun without "
+                + "calls of itself, or check)");
         Tester t = new Tester();
         Tester.same("before", t.house.recheck(), false);
         for (String order : new String[] {"(prove", "(evil)", "(undo)", "(eval (+ 4611686018427387903 1))", "(eval 1)", "(simplify 1)",

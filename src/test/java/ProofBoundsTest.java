@@ -55,7 +55,9 @@ public final class ProofBoundsTest {
     }
 
     private static void lengths() {
-        Tester.sentence(WHERE, "PROOFS, and the clause that each has");
+        Tester.sentence(WHERE, "PROOFS, and the clause that each has .. (taut L): L, NOT L. (same L): (equal L L). .. "
+                + "(first L M): (equal (car (cons L M)) L). (second L M): (equal (cdr (cons L M)) M). (pair L M): (consp (cons L M)). "
+                + "(yes L M N): NOT L, (equal (if L M N) M). (no L M N): L, (equal (if L M N) N).");
         Tester t = new Tester();
         t.done("(defun f (x) x)").done("(defthm a (equal x x))");
         String[] forms = {"(taut x)", "(same x)", "(value (car 1))", "(first x y)", "(second x y)", "(pair x y)", "(yes x y z)",
@@ -109,7 +111,8 @@ public final class ProofBoundsTest {
     }
 
     private static void formAheadOfParts() {
-        Tester.sentence(WHERE, "Its form is asked ahead of its parts, then these from the left, then what is told of their clauses; "
+        Tester.sentence(WHERE, "Its form is asked ahead of its parts, then these from the left, then what is told of "
+                + "their clauses; "
                 + "where something is not so: 7, OUT that PROOF");
         Tester t = new Tester();
         t.done("(defun len (x) (if (consp x) (+ 1 (len (cdr x))) 0) (height x))");
@@ -242,7 +245,8 @@ public final class ProofBoundsTest {
     }
 
     private static void put() {
-        Tester.sentence(WHERE, "(put P Q): P's first literal must be (equal A B): Q's, with B wherever A stands in them as a term, then P's others");
+        Tester.sentence(WHERE, "(put P Q): P's first literal must be (equal A B): Q's, with B wherever A stands in "
+                + "them as a term, then P's others");
         Tester t = new Tester();
         clause(t, "(put (taut (equal x y)) (taut (cons x 'x)))", "((cons y 'x) (not (cons y 'x)) (not (equal x y)))", 3);
         clause(t, "(put (taut (equal nil 5)) (taut (cons nil '(nil))))", "((cons 5 '(nil)) (not (cons 5 '(nil))) (not (equal nil 5)))", 3);

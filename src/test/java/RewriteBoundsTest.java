@@ -46,7 +46,8 @@ public final class RewriteBoundsTest {
     }
 
     private static void depth() {
-        Tester.sentence(WHERE, "It is one STEP, ahead of all else, and TOO DEEP within 60 others that are not ended (asked first)");
+        Tester.sentence(WHERE, "It is one STEP, ahead of all else, and TOO DEEP within 60 others that are not ended "
+                + "(asked first)");
         Tester t = new Tester();
         t.done("(defun g (x) " + Texts.chain("car", 37, "x") + ")");
         // With k of car around (g x), the x in its body is within k, (g x) and 37 others.
@@ -87,11 +88,22 @@ public final class RewriteBoundsTest {
         simple("(if nil x y)", "y", 3);
         simple("(if '(nil) x y)", "x", 3);
         simple("(if (not 0) x y)", "y", 4);
-        Tester.sentence(WHERE, "and if that is (not X): A being X, and B and C exchanged");
+        Tester.sentence(WHERE, "Else, A being now what came out, and if that is (not X): A being X, and B and C exchanged: "
+                + "B REWRITTEN in the CONTEXT and A behind it; C in the CONTEXT and NOT A behind it");
         simple("(if (not x) y z)", "(if x z y)", 5);
         simple("(if (not (not x)) y z)", "(if x y z)", 6);
         // B is REWRITTEN ahead of C, also of those that were exchanged: z is known nil in the last one.
         simple("(if (not z) (cons z 1) (cons z 2))", "(if z (cons z 2) '(nil . 1))", 9);
+        // A holds in B alone, NOT A in C alone, neither behind the if.
+        simple("(cons (if (natp x) (natp x) (natp x)) (natp x))", "(cons (natp x) (natp x))", 1 + 1 + 6 + 2);
+        simple("(if (natp x) (if (natp x) 1 2) (if (natp x) 1 2))", "(if (natp x) 1 2)", 1 + 2 + 4 + 4);
+        Tester.sentence(WHERE, "A variable is LOOKED UP. Of another call: its terms, from the left, REWRITTEN for "
+                + "their VALUES");
+        simple("(if x (cons x (if x 1 2)) 3)", "(if x (cons x 1) 3)", 1 + 1 + 1 + 1 + 3 + 1);
+        // From the left: the first one is TOO BIG as it is made, and the second one isn't begun; or it has ended ahead of that.
+        String great = "(implies " + Texts.sized(60, "x") + " " + Texts.sized(56, "x") + ")";
+        new Tester().unworked("(simplify (cons " + great + " y))", 4, 2);
+        new Tester().unworked("(simplify (cons y " + great + "))", 4, 3);
     }
 
     private static void implications() {
@@ -125,7 +137,8 @@ public final class RewriteBoundsTest {
     }
 
     private static void negations() {
-        Tester.sentence(WHERE, "but if that is (not X), X isn't BOOLEAN, and the VALUE is wanted: (not (not X)); "
+        Tester.sentence(WHERE, "Of (not A): A REWRITTEN for its TRUTH, then NOT that; but if that is (not X), X isn't "
+                + "BOOLEAN, and the VALUE is wanted: (not (not X)); "
                 + "if this isn't a constant it is LOOKED UP");
         simple("(not (not x))", "(not (not x))", 3);
         simple("(not (not (natp x)))", "(natp x)", 4);
@@ -202,7 +215,8 @@ public final class RewriteBoundsTest {
     }
 
     private static void equals() {
-        Tester.sentence(WHERE, "3 (equal X X): t. (equal X Y), one of them a call of cons, the other one a constant that is no pair: "
+        Tester.sentence(WHERE, "3 (equal X X): t. (equal X Y), one of them a call of cons, the other one a constant "
+                + "that is no pair: "
                 + "nil; both calls of cons");
         simple("(equal (car x) (car x))", "t", 5);
         simple("(equal (car x) (car y))", "(equal (car x) (car y))", 5);
@@ -227,7 +241,8 @@ public final class RewriteBoundsTest {
     }
 
     private static void kinds() {
-        Tester.sentence(WHERE, "consp of a call of cons: t; natp, symbolp: nil. natp of a call of +, - or height: t; consp, symbolp: nil");
+        Tester.sentence(WHERE, "consp of a call of cons: t; natp, symbolp: nil. natp of a call of +, - or height: t; "
+                + "consp, symbolp: nil");
         for (String call : new String[] {"(cons x y)", "(+ x y)", "(- x y)", "(height x)", "(car x)", "(equal x y)"}) {
             boolean pair = call.startsWith("(cons");
             boolean number = call.startsWith("(+") || call.startsWith("(-") || call.startsWith("(height");
@@ -277,7 +292,8 @@ public final class RewriteBoundsTest {
     }
 
     private static void lookedUp() {
-        Tester.sentence(WHERE, "LOOKED UP: U is in the CONTEXT, and the TRUTH is wanted or U is BOOLEAN: t. Else (not U) is in it: nil. "
+        Tester.sentence(WHERE, "LOOKED UP: U is in the CONTEXT, and the TRUTH is wanted or U is BOOLEAN: t. Else (not "
+                + "U) is in it: nil. "
                 + "Else (equal U K) or (equal K U), K a constant, is in it: K (of the first such). Else U");
         simple("(if x (if x 1 2) 3)", "(if x 1 3)", 1 + 1 + 3 + 1);
         simple("(if x (cons x y) 3)", "(if x (cons x y) 3)", 1 + 1 + 3 + 1);
@@ -329,7 +345,8 @@ public final class RewriteBoundsTest {
     }
 
     private static void unfolding() {
-        Tester.sentence(WHERE, "6 The function is DEFINED without calls of itself: its body, with these for the parameters, REWRITTEN. "
+        Tester.sentence(WHERE, "6 The function is DEFINED without calls of itself: its body, with these for the "
+                + "parameters, REWRITTEN. "
                 + "7 It is DEFINED with them, its body is (if Q B C), and Q .. comes out as a constant: B or C, with these, REWRITTEN. 8 U");
         Tester t = new Tester();
         t.done("(defun f (x y) (cons y x))").due("(simplify (f y x))", 0, "(cons x y)", 3 + 3);
@@ -382,7 +399,8 @@ public final class RewriteBoundsTest {
     }
 
     private static void turning() {
-        Tester.sentence(WHERE, "but one whose right side is the left one with variables for variables (for each one, no two alike) "
+        Tester.sentence(WHERE, "but one whose right side is the left one with variables for variables (for each one, "
+                + "no two alike) "
                 + "only if the right side with these is SMALLER than U (asked ahead of the HYPOTHESES)");
         Tester t = new Tester();
         t.done("(defun p (x y) 3)").done("(defthm turn (implies (natp x) (equal (p x y) (p y x))))");
@@ -398,7 +416,8 @@ public final class RewriteBoundsTest {
         t.done("(defthm one (equal (p x 2) (p 2 x)))").due("(simplify (p a 2))", 0, "3", 3 + 1 + 3 + 1).done("(undo)");
         t.done("(defthm one (equal (p 2 x) (p x 2)))").due("(simplify (p 2 a))", 0, "3", 3 + 1 + 3 + 1).done("(undo)");
         // Where it doesn't turn, the one ahead of it is next.
-        t.done("(defun s (x y) (if (consp x) (s (cdr x) y) 3) (height x))").done("(defthm three (equal (s x y) 3) (induct (s x y)))");
+        t.done("(defun s (x y) (if (consp x) (s (cdr x) y) 3) (height x))");
+        t.done("(defthm three (equal (s x y) 3) (induct (s x y)))");
         t.done("(defthm turn (equal (s x y) (s y x)) (use three) (use three (x y) (y x)))");
         t.due("(simplify (s a b))", 0, "3", 3 + 1 + 1 + 1).due("(simplify (s b a))", 0, "3", 3 + 1 + 3 + 1 + 1 + 1);
     }

@@ -62,7 +62,8 @@ public final class TermBoundsTest {
 
     private static void arities() {
         Tester.sentence(TWO, "A CALL is a list of a FUNCTION's name and as many terms as it takes");
-        Tester.sentence(TWO, "BASE functions: if 3; equal, cons, implies, +, -, < 2; consp, car, cdr, natp, symbolp, height, not 1");
+        Tester.sentence(TWO, "BASE functions: if 3; equal, cons, implies, +, -, < 2; consp, car, cdr, natp, symbolp, "
+                + "height, not 1");
         Tester t = new Tester();
         t.done("(defun none () 1)").done("(defun six (a b c d e f) 1)");
         String[] names = {"if", "equal", "cons", "implies", "+", "-", "<", "consp", "car", "cdr", "natp", "symbolp",
@@ -190,7 +191,8 @@ public final class TermBoundsTest {
         String last = Texts.sized(120, "x");
         String first = Texts.sized(121, "x");
         t.due("(simplify " + last + ")", 0, last, 120).due("(simplify " + first + ")", 2, "", 0);
-        t.due("(eval (natp " + Texts.sized(119, "1") + "))", 0, "nil").due("(eval (natp " + Texts.sized(120, "1") + "))", 2, "");
+        t.due("(eval (natp " + Texts.sized(119, "1") + "))", 0, "nil");
+        t.due("(eval (natp " + Texts.sized(120, "1") + "))", 2, "");
         t.due("(prove " + last + ")", 6, "((" + last + "))", 120).due("(prove " + first + ")", 2, "");
         t.done("(defun f (x) " + last + ")").due("(defun g (x) " + first + ")", 2, "");
         // (< M2 M) has both of them, so an M of 120 is TOO BIG, but it is one.
@@ -207,7 +209,8 @@ public final class TermBoundsTest {
     }
 
     private static void sizeOfConstants() {
-        Tester.sentence(TWO, "The SIZE of a term is how many variables, constants and calls it has (each as often as it stands)");
+        Tester.sentence(TWO, "The SIZE of a term is how many variables, constants and calls it has (each as often as "
+                + "it stands)");
         Tester t = new Tester();
         String great = "'(" + "a b ".repeat(150) + ")";
         t.due("(eval (car " + great + "))", 0, "a");
@@ -447,7 +450,8 @@ public final class TermBoundsTest {
     }
 
     private static void calls() {
-        Tester.sentence(THREE, "A call that is begun within 300 others that are not ended is TOO DEEP (asked ahead of its STEP)");
+        Tester.sentence(THREE, "A call that is begun within 300 others that are not ended is TOO DEEP (asked ahead of "
+                + "its STEP)");
         Tester t = new Tester();
         t.done("(defun low (n) (if (< 0 n) (low (- n 1)) n) n)");
         // (low n) ends in a variable: its last call is a <, within n + 1 of low and n + 1 of if.

@@ -64,7 +64,9 @@ public final class TextBoundsTest {
     }
 
     private static void characters() {
-        Tester.sentence(WHERE, "1 a character with which no word begins (also 32 .. 126 that are none of those above)");
+        Tester.sentence(WHERE, "32 .. 126 or 10. BLANKS are 32, 10 .. ATOMS, of letters a .. z, digits and + - * / < "
+                + "> = ? ! _ .. "
+                + "1 a character with which no word begins (also 32 .. 126 that are none of those above)");
         Tester t = new Tester();
         for (char c = 0; c < 256; c++) {
             boolean mark = MARKS.indexOf(c) >= 0;
@@ -141,7 +143,8 @@ public final class TextBoundsTest {
     }
 
     private static void dots() {
-        Tester.sentence(WHERE, "( and objects, at least one, . one object and ) : pairs, with that one instead of nil at the end");
+        Tester.sentence(WHERE, "( and objects, at least one, . one object and ) : pairs, with that one instead of nil "
+                + "at the end");
         quoted("(a . b)", "(a . b)");
         quoted("(a b c . d)", "(a b c . d)");
         quoted("(a . 'b)", "(a quote b)");
@@ -275,7 +278,8 @@ public final class TextBoundsTest {
     }
 
     private static void toldPairs() {
-        Tester.sentence(WHERE, "other pairs as lists, with . and the last one if that isn't nil; one blank between (also around .)");
+        Tester.sentence(WHERE, "other pairs as lists, with . and the last one if that isn't nil; one blank between "
+                + "(also around .)");
         quoted("(a . nil)", "(a)");
         quoted("(a . t)", "(a . t)");
         quoted("(a . 0)", "(a . 0)");
