@@ -10,6 +10,7 @@ import java.util.regex.Pattern;
 /** The examples of README.md: they answer what it says. */
 public final class ReadmeTest {
     private static final Pattern CALL = Pattern.compile("house\\.(\\w+)\\((.*?)\\);\\s*// (.*)");
+    private static final Pattern ANSWERED = Pattern.compile("(\\w+)\\((.*?)\\) (\\S+)");
 
     public static void main(String[] args) throws IOException, ReflectiveOperationException {
         List<String> lines = Files.readAllLines(Path.of("README.md"));
@@ -52,14 +53,21 @@ public final class ReadmeTest {
         return method.invoke(house, numbers);
     }
 
-    /** Behind > a TEXT, on the next line its ANSWER and OUT. */
-    private static void runTexts(List<String> lines) {
+    /** Behind > a TEXT, on the next line its ANSWER and OUT; the other lines are calls with what they answer. */
+    private static void runTexts(List<String> lines) throws ReflectiveOperationException {
         Tester tester = new Tester();
-        for (int k = 0; k + 1 < lines.size(); k += 2) {
-            Tester.same(lines.get(k) + " is a TEXT", lines.get(k).startsWith("> "), true);
-            String text = lines.get(k).substring(2);
-            String due = lines.get(k + 1);
-            tester.due(text, due.charAt(0) - '0', due.length() > 2 ? due.substring(2) : "");
+        for (int k = 0; k < lines.size(); k++) {
+            String line = lines.get(k);
+            if (line.startsWith("> ") && k + 1 < lines.size()) {
+                k++;
+                String due = lines.get(k);
+                tester.due(line.substring(2), due.charAt(0) - '0', due.length() > 2 ? due.substring(2) : "");
+            } else {
+                Matcher call = ANSWERED.matcher(line);
+                Tester.same(line + " is a call", call.matches(), true);
+                Object got = called(tester.house, call.group(1), call.group(2));
+                Tester.same(line, String.valueOf(got), call.group(3));
+            }
         }
     }
 
